@@ -539,7 +539,8 @@ public final class NewsReel {
     private int takeDraftItems() {
         remember();
         state.items.copyFrom(draft.items);
-        settle();
+        // Only the items are new: the words keep their times.
+        pieces.cutFrom(state.items);
         return pieces.end;
     }
 

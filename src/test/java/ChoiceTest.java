@@ -90,6 +90,10 @@ public final class ChoiceTest {
         Expect.due("the slowest voice", x.bestSpeed(), 1);
         Expect.edit(x, "map 0 400;");
         Expect.due("the fastest of all", x.bestSpeed(), 20);
+        Expect.edit(x, "map 0 62;");
+        Expect.due("the slowest but one", x.bestSpeed(), 2);
+        Expect.edit(x, "map 0 59;");
+        Expect.due("the least of the first two", x.bestSpeed(), 1);
         Expect.say(x, "");
         Expect.due("without a voice", x.bestSpeed(), 1);
     }

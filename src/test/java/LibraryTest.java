@@ -7,6 +7,7 @@ public final class LibraryTest {
         counts();
         shots();
         maps();
+        fewerPiecesAndWords();
         bans();
         weeks();
         Expect.end("LibraryTest");
@@ -51,6 +52,27 @@ public final class LibraryTest {
         Expect.throwsIndex("map(-1, -1)", () -> x.map(-1, -1));
         Expect.throwsArgument("map(1, 4)", () -> x.map(1, 4));
         Expect.throwsArgument("map(1, -1)", () -> x.map(1, -1));
+    }
+
+    /** A shorter reel and voice take the place of longer ones: nothing of these is counted. */
+    private static void fewerPiecesAndWords() {
+        NewsReel x = Expect.made("shot 0 10;map rome;", "repeat 9{shot 0;map 0 5;};", "rome rome rome.");
+        Expect.edit(x, "shot 0 from 1 to 4;");
+        Expect.say(x, "rome.");
+        int[] dueShot = {0, 10, 0, 1, 4};
+        for (int what = 0; what < dueShot.length; what++) {
+            Expect.due("shot 0 " + what, x.shot(0, what), dueShot[what]);
+        }
+        int[] dueMap = {4, 1, 0, 0};
+        for (int what = 0; what < dueMap.length; what++) {
+            Expect.due("map 0 " + what, x.map(0, what), dueMap[what]);
+        }
+        Expect.due("items", x.count(8), 1);
+        Expect.due("words", x.count(10), 1);
+        Expect.throwsIndex("piece(1, 0)", () -> x.piece(1, 0));
+        Expect.throwsIndex("word(1, 0)", () -> x.word(1, 0));
+        Expect.due("insert", x.insert(1, 0, 3), 7);
+        Expect.due("map 0 2 after insert", x.map(0, 2), 1);
     }
 
     private static void bans() {

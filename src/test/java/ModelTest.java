@@ -30,7 +30,7 @@ public final class ModelTest {
     }
 
     private boolean run(long seed) {
-        // An object lasts 512 calls; texts take most of them, so what lasts here is the run of steps.
+        // These runs are longer than the 512 calls that are promised: the class counts no calls.
         for (int step = 0; step < 160; step++) {
             if (!step(step)) {
                 System.out.println("seed " + seed + " step " + step + ": " + told.get(told.size() - 1));

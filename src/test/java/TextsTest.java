@@ -6,6 +6,7 @@ public final class TextsTest {
         newObject();
         buffer();
         bytesInOrder();
+        bytesBehindTheText();
         loadReplaces();
         loadKeeps();
         libraryErrors();
@@ -64,6 +65,24 @@ public final class TextsTest {
         Expect.due("its position", x.errorPosition(), 0);
     }
 
+    /** What was cut off the text, or stood in a longer one, is not read. */
+    private static void bytesBehindTheText() {
+        NewsReel x = new NewsReel();
+        Expect.type(x, "week 555;");
+        x.truncateText(6);
+        Expect.due("load of a cut number", x.load(), -1);
+        Expect.due("its errorCode", x.errorCode(), 1);
+        Expect.due("its errorPosition", x.errorPosition(), 6);
+        Expect.type(x, "aaaa.");
+        x.truncateText(2);
+        Expect.due("say of a cut word", x.say(), -1);
+        Expect.due("its errorPosition", x.errorPosition(), 2);
+        Expect.type(x, "week 5;week 6;");
+        x.truncateText(7);
+        Expect.due("load of a cut library", x.load(), 0);
+        Expect.due("WEEK", x.count(3), 5);
+    }
+
     private static void loadReplaces() {
         NewsReel x = Expect.made("shot 3 50;map rome;ban 3 1 2;week 5;speed 6;pause 7;least 9;slack 11;",
                 "shot 0;map 0 5;", "rome is old.");
@@ -120,6 +139,7 @@ public final class TextsTest {
     private static void libraryErrors() {
         libraryFine("shot0 1;shot 5 400;shot 0005 000000000000000000400;", 3);
         libraryFine("map shot;map map;map abcdefgh;ban 0 0 0;ban 5 99 99;week 0;speed 20;pause 50;least 50;slack 100;", 0);
+        libraryFine("map z;map a;map az;map za;", 0);
         libraryFine("week 99;speed 1;pause 0;least 1;slack 0;", 0);
         libraryError("shot 6 1;", 2, 5);
         libraryError("shot 0 0;", 2, 7);
@@ -254,6 +274,7 @@ public final class TextsTest {
         voiceFine(" \n ", 0);
         voiceFine("a.b .c\n.", 3);
         voiceFine("abcdefghijklmnopqrst.", 1);
+        voiceFine("uvwxyz a z az za.", 5);
         voiceFine("a ".repeat(60) + ".", 60);
         voiceError("abcdefghijklmnopqrstu.", 2, 0);
         voiceError("a ".repeat(60) + "b.", 4, 120);
