@@ -4,6 +4,8 @@ import java.util.Random;
 
 /** Long runs of calls, made by seeded numbers, on the class and on SlowReel; each answer is compared. */
 public final class ModelTest {
+    /** Nothing is promised about an object after its 512th call. */
+    private static final int CALLS = 512;
     private static final String[] WORDS = {"ah", "rome", "oslo", "news", "rhythm", "eye", "shot", "aeiou", "bucharest", "strength"};
 
     private final Random random;
@@ -11,13 +13,14 @@ public final class ModelTest {
     private final SlowReel slow = new SlowReel();
     private final List<String> told = new ArrayList<>();
     private int shotsHere = 0;
+    private int calls = 0;
 
     private ModelTest(long seed) {
         random = new Random(seed);
     }
 
     public static void main(String[] args) {
-        int runs = args.length > 0 ? Integer.parseInt(args[0]) : 60;
+        int runs = args.length > 0 ? Integer.parseInt(args[0]) : 2000;
         int first = args.length > 1 ? Integer.parseInt(args[1]) : 0;
         int wrong = 0;
         for (int seed = first; seed < first + runs && wrong < 3; seed++) {
@@ -30,10 +33,9 @@ public final class ModelTest {
     }
 
     private boolean run(long seed) {
-        // These runs are longer than the 512 calls that are promised: the class counts no calls.
-        for (int step = 0; step < 160; step++) {
+        for (int step = 0; calls < CALLS; step++) {
             if (!step(step)) {
-                System.out.println("seed " + seed + " step " + step + ": " + told.get(told.size() - 1));
+                System.out.println("seed " + seed + " call " + calls + ": " + told.get(told.size() - 1));
                 System.out.println("  the model: " + slow);
                 return false;
             }
@@ -73,6 +75,10 @@ public final class ModelTest {
     }
 
     private boolean same(String call, Made mine, Made due) {
+        if (calls == CALLS) {
+            return true;
+        }
+        calls++;
         Object got = result(mine);
         Object want = result(due);
         told.add(call + " answered " + got + ", due is " + want);
@@ -80,29 +86,42 @@ public final class ModelTest {
     }
 
     private boolean step(int step) {
-        if (step == 0 || below(60) == 0) {
-            return text(library()) && same("load", x::load, slow::load) && errors() && library2();
+        if (step == 0 || below(80) == 0) {
+            return text(library()) && same("load", x::load, slow::load) && errors() && newShots() && look();
         }
         int kind = below(100);
-        if (kind < 12) {
+        if (step == 1 || kind < 9) {
             return text(broken(reelText(0, new int[] {1 + below(below(3) == 0 ? 32 : 8)}))) && same("edit", x::edit, slow::edit)
-                    && errors() && everything();
+                    && errors() && look();
         }
-        if (kind < 20) {
-            return text(broken(voice())) && same("say", x::say, slow::say) && errors() && everything();
+        if (step == 2 || kind < 14) {
+            return text(broken(voice())) && same("say", x::say, slow::say) && errors() && look();
         }
-        return kind < 60 ? act() && (below(4) != 0 || everything()) : question();
+        return kind < 75 ? act() && look() : question();
     }
 
-    private boolean library2() {
+    private boolean newShots() {
         shotsHere = slow.count(0);
-        return everything();
+        return true;
+    }
+
+    /** Some questions after a change; at times all of them, as far as there are calls left. */
+    private boolean look() {
+        if (below(12) == 0) {
+            return everything();
+        }
+        boolean fine = true;
+        for (int i = 0; i < 3 && fine; i++) {
+            fine = question();
+        }
+        return fine;
     }
 
     private boolean text(String text) {
         String cut = text.length() > 500 ? text.substring(0, 500) : text;
-        x.truncateText(0);
-        slow.truncateText(0);
+        if (!same("truncateText(0)", () -> x.truncateText(0), () -> slow.truncateText(0))) {
+            return false;
+        }
         for (int i = 0; i < cut.length(); i += 4) {
             int four = 0;
             for (int j = i; j < i + 4; j++) {
@@ -237,13 +256,28 @@ public final class ModelTest {
             default: int slot = near(2);
                 if (below(3) == 0) {
                     return same("restore " + slot, () -> { x.restore(slot); return 0; }, () -> { slow.restore(slot); return 0; })
-                            && library2();
+                            && newShots() && look();
                 }
                 return same("save " + slot, () -> { x.save(slot); return 0; }, () -> { slow.save(slot); return 0; });
         }
     }
 
     private boolean question() {
+        int row = near(14);
+        switch (below(12)) {
+            case 0: return same("count " + row, () -> x.count(row), () -> slow.count(row));
+            case 1: return same("reel " + row / 2, () -> x.reel(row / 2), () -> slow.reel(row / 2));
+            case 2: return same("account " + row / 2, () -> x.account(row / 2), () -> slow.account(row / 2));
+            case 3: return same("faults " + row / 2, () -> x.faults(row / 2), () -> slow.faults(row / 2));
+            case 4: return same("best " + row / 5, () -> x.best(row / 5), () -> slow.best(row / 5));
+            case 5: return same("share " + row / 2, () -> x.share(row / 2), () -> slow.share(row / 2));
+            case 6: return below(2) == 0 ? same("pace", x::pace, slow::pace) : same("fits", x::fits, () -> slow.faults(0) == 0);
+            case 7: return same("bestSpeed", x::bestSpeed, slow::bestSpeed);
+            default: return questionOfOne();
+        }
+    }
+
+    private boolean questionOfOne() {
         int what = near(7);
         int piece = near(slow.reel(0));
         int frame = near(slow.reel(1));

@@ -142,16 +142,6 @@ public final class ReelTest {
         written("repeat 2 { mix 40 { } ; shot 0 ; } ; shot 1 ; mix 0 { repeat 1 { map 0 10 ; } ; } ;",
                 "repeat 2{mix 40{};shot 0;};shot 1;mix 0{repeat 1{map 0 10;};};");
         written("mix 1{mix 2{mix 3{mix 4{};};};};mix 5{};", "mix 1{mix 2{mix 3{mix 4{};};};};mix 5{};");
-        NewsReel x = new NewsReel();
-        Expect.load(x, "shot 0 400;".repeat(12));
-        StringBuilder dense = new StringBuilder();
-        StringBuilder due = new StringBuilder();
-        for (int i = 0; i < 24; i++) {
-            dense.append("shot11from100to").append(101 + i).append(";");
-            due.append("shot 11 from 100 to ").append(101 + i).append(";");
-        }
-        Expect.due("edit of a dense text", Expect.edit(x, dense.toString()), 24);
-        Expect.dueText("a text of more than 500 bytes", Expect.reelText(x), due.toString());
     }
 
     private static void output() {

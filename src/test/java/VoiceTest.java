@@ -89,9 +89,7 @@ public final class VoiceTest {
         Expect.dueText("two sentences", Expect.voiceText(x), "we saw rome. fire in oslo.");
         Expect.say(x, "a.b.".repeat(30));
         Expect.dueText("60 sentences", Expect.voiceText(x), "a. b. ".repeat(30).trim());
-        Expect.say(x, "abcdefghijklmnopqrst".repeat(1) + " " + "abcdefghijklmnopqrs ".repeat(23) + "x.");
-        Expect.dueText("480 letters", Expect.voiceText(x),
-                "abcdefghijklmnopqrst " + "abcdefghijklmnopqrs ".repeat(23) + "x.");
+        Expect.say(x, "rome.");
         x.undo();
         Expect.dueText("after undo", Expect.voiceText(x), "a. b. ".repeat(30).trim());
     }
