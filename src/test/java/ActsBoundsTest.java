@@ -7,6 +7,7 @@ public final class ActsBoundsTest {
     public static void main(String[] args) {
         accounts();
         accountExceptions();
+        whatIsNoAct();
         refusedChangesNothing();
         throwsChangesNothing();
         insertPlaces();
@@ -48,7 +49,7 @@ public final class ActsBoundsTest {
     // ---- accounts, refusals, exceptions
 
     private static void accounts() {
-        Expect.sentence("0: acts that were done; 1 to 6: refusals with this reason; (acts that were undone count, too)");
+        Expect.sentence("Promise 16", "0: acts that were done; 1 to 6: refusals with this reason", "(acts that were undone count, too)");
         NewsReel x = made();
         Expect.dueRow("account", x::account, 2, 0, 0, 0, 0, 0, 0);
         Expect.edit(x, "shot");
@@ -80,9 +81,32 @@ public final class ActsBoundsTest {
     }
 
     private static void accountExceptions() {
-        Expect.sentence("account: Throws `IllegalArgumentException` if what is out of range");
+        Expect.sentence("Promise 16", "Throws `IllegalArgumentException` if what is out of range");
         NewsReel x = new NewsReel();
         Expect.throwsArgumentAround("account", x::account, 0, 6);
+    }
+
+    private static void whatIsNoAct() {
+        Expect.sentence("ACTS", "Acts are the methods from edit() to setSlack().");
+        NewsReel x = made();
+        x.setSlack(5);
+        x.save(0);
+        x.save(1);
+        x.writeReel();
+        x.writeVoice();
+        x.appendText(0);
+        x.truncateText(0);
+        x.bestWeek();
+        Expect.load(x, "week 100;");
+        Expect.due("acts done after what is none", x.account(0), 3);
+        Expect.due("acts to undo after what is none", x.count(13), 3);
+        x.undo();
+        Expect.due("acts done after undo", x.account(0), 3);
+        x.restore(1);
+        Expect.due("acts done after restore", x.account(0), 3);
+        Expect.due("load", Expect.load(x, "week 1;"), 0);
+        Expect.due("acts done after load", x.account(0), 3);
+        Expect.due("acts to undo after load", x.count(13), 0);
     }
 
     interface Refused {
@@ -90,7 +114,7 @@ public final class ActsBoundsTest {
     }
 
     private static void refusedChangesNothing() {
-        Expect.sentence("what is refused changes nothing but the accounts (and the text buffer, where that is said)");
+        Expect.sentence("ACTS", "what is refused changes nothing but the accounts (and the text buffer, where that is said)");
         refused("edit of an error", 1, x -> x.edit());
         refused("say of an error", 1, x -> x.say());
         refused("assemble", 3, x -> x.assemble());
@@ -130,7 +154,7 @@ public final class ActsBoundsTest {
     }
 
     private static void throwsChangesNothing() {
-        Expect.sentence("A method that throws an exception changes nothing.");
+        Expect.sentence("EXCEPTIONS", "A method that throws an exception changes nothing.");
         thrown("IllegalArgumentException", "truncateText(8)", x -> x.truncateText(8));
         thrown("IllegalArgumentException", "truncateText(-1)", x -> x.truncateText(-1));
         thrown("IllegalArgumentException", "count(14)", x -> x.count(14));
@@ -207,7 +231,10 @@ public final class ActsBoundsTest {
     // ---- insert
 
     private static void insertPlaces() {
-        Expect.sentence("`item`: the place, 0 to the number of items of the reel; Puts a map into the reel as an item ahead of another one, or behind all. Returns the END then");
+        Expect.sentence("Promise 28",
+                "`item`: the place, 0 to the number of items of the reel",
+                "Puts a map into the reel as an item ahead of another one, or behind all.",
+                "Returns the END then");
         for (int item = 0; item <= 3; item++) {
             NewsReel x = made();
             String[] due = {"map 1 5;" + REEL, "shot 0 from 10 to 19;map 1 5;mix 4{shot 1;repeat 2{shot 0;};};map 0 6;",
@@ -227,7 +254,7 @@ public final class ActsBoundsTest {
     }
 
     private static void insertFrames() {
-        Expect.sentence("`frames`: 1 to 400");
+        Expect.sentence("Promise 28", "`frames`: 1 to 400", "Throws `IllegalArgumentException` if frames is out of range");
         NewsReel x = Expect.made(LIBRARY, "", "");
         Expect.due("insert of 1 frame", x.insert(0, 0, 1), 1);
         Expect.due("insert of 400 frames", x.insert(1, 1, 400), 401);
@@ -237,7 +264,7 @@ public final class ActsBoundsTest {
     }
 
     private static void insertExceptions() {
-        Expect.sentence("insert: Throws `IndexOutOfBoundsException` if there is no such place or map");
+        Expect.sentence("Promise 28", "Throws `IndexOutOfBoundsException` if there is no such place or map");
         NewsReel x = made();
         Expect.throwsIndexAround("insert at a place", item -> x.insert(item, 0, 1), 4);
         Expect.throwsIndexAround("insert of a map", map -> x.insert(0, map, 1), 2);
@@ -249,7 +276,7 @@ public final class ActsBoundsTest {
     }
 
     private static void thirtyItems() {
-        Expect.sentence("4 there are 30 items in all");
+        Expect.sentence("Promise 28", "4 there are 30 items in all");
         NewsReel x = Expect.made(LIBRARY, "map 0 1;".repeat(29), "");
         Expect.due("insert of a 30th item", x.insert(29, 1, 1), 30);
         String state = Expect.state(x);
@@ -264,7 +291,7 @@ public final class ActsBoundsTest {
     }
 
     private static void sixtyPieces() {
-        Expect.sentence("2 there would be more than 60 pieces");
+        Expect.sentence("Promise 28", "2 there would be more than 60 pieces");
         NewsReel x = Expect.made(LIBRARY, "repeat 6{repeat 9{map 0 1;};};repeat 5{map 1 1;};", "");
         Expect.due("insert of a 60th piece", x.insert(1, 0, 1), 60);
         String state = Expect.state(x);
@@ -277,7 +304,7 @@ public final class ActsBoundsTest {
     }
 
     private static void firstReason() {
-        Expect.sentence("refused with a reason (the first one that applies of those named at the method)");
+        Expect.sentence("ACTS", "refused with a reason (the first one that applies of those named at the method)");
         NewsReel x = Expect.made(LIBRARY, "repeat 3{" + "map 0 1;".repeat(20) + "};" + "mix 0{};".repeat(9), "");
         Expect.due("insert of a 31st item and a 61st piece", x.insert(0, 0, 1), -4);
         Expect.dueRow("account", x::account, 2, 0, 0, 0, 1, 0, 0);
@@ -292,7 +319,10 @@ public final class ActsBoundsTest {
     // ---- trim
 
     private static void trimFrames() {
-        Expect.sentence("Returns the frames that it has then; or minus the reason: 6 it would have less than 1 frame");
+        Expect.sentence("Promise 29",
+                "Cuts frames off the end of an item of the reel that is a cut or a map.",
+                "Returns the frames that it has then",
+                "6 it would have less than 1 frame");
         NewsReel x = made();
         Expect.due("trim of one frame of ten", x.trim(0, 1), 9);
         Expect.due("trim of all but one", x.trim(0, 8), 1);
@@ -316,7 +346,10 @@ public final class ActsBoundsTest {
     }
 
     private static void trimExceptions() {
-        Expect.sentence("`by`: 1 to 399; Throws `IndexOutOfBoundsException` if there is no such item; `IllegalArgumentException` if by is out of range");
+        Expect.sentence("Promise 29",
+                "`by`: 1 to 399",
+                "Throws `IndexOutOfBoundsException` if there is no such item",
+                "Throws `IllegalArgumentException` if by is out of range");
         NewsReel x = made();
         Expect.throwsArgumentAround("trim by", by -> x.trim(0, by), 1, 399);
         Expect.throwsIndexAround("trim", item -> x.trim(item, 1), 3);
@@ -325,7 +358,7 @@ public final class ActsBoundsTest {
     }
 
     private static void trimBlocks() {
-        Expect.sentence("5 it is a repetition or a mix");
+        Expect.sentence("Promise 29", "5 it is a repetition or a mix");
         NewsReel x = Expect.made(LIBRARY, "repeat 1{map 0 9;};mix 0{map 0 9;};repeat 9{};mix 40{};map 0 9;", "");
         for (int item = 0; item < 4; item++) {
             Expect.due("trim of block " + item, x.trim(item, 1), -5);
@@ -338,7 +371,7 @@ public final class ActsBoundsTest {
     // ---- remove and move
 
     private static void remove() {
-        Expect.sentence("Takes an item out of the reel. Returns the END then.");
+        Expect.sentence("Promise 30", "Takes an item out of the reel.", "Returns the END then.");
         String[] due = {"mix 4{shot 1;repeat 2{shot 0;};};map 0 6;", "shot 0 from 10 to 19;map 0 6;",
             "shot 0 from 10 to 19;mix 4{shot 1;repeat 2{shot 0;};};"};
         int[] end = {78, 16, 82};
@@ -358,7 +391,7 @@ public final class ActsBoundsTest {
     }
 
     private static void removeExceptions() {
-        Expect.sentence("remove: Throws `IndexOutOfBoundsException` if there is no such item");
+        Expect.sentence("Promise 30", "Throws `IndexOutOfBoundsException` if there is no such item");
         NewsReel x = made();
         Expect.throwsIndexAround("remove", x::remove, 3);
         NewsReel empty = new NewsReel();
@@ -367,7 +400,10 @@ public final class ActsBoundsTest {
     }
 
     private static void move() {
-        Expect.sentence("Takes an item of the reel out of its place and puts it to another one (also to where it is). `to`: the number that it has then. Returns the END then.");
+        Expect.sentence("Promise 31",
+                "Takes an item of the reel out of its place and puts it to another one (also to where it is).",
+                "`to`: the number that it has then",
+                "Returns the END then.");
         String[] items = {"shot 0 from 10 to 19;", "mix 4{shot 1;repeat 2{shot 0;};};", "map 0 6;"};
         int[][] due = {{0, 1, 2}, {1, 0, 2}, {1, 2, 0}, {1, 0, 2}, {0, 1, 2}, {0, 2, 1}, {2, 0, 1}, {0, 2, 1}, {0, 1, 2}};
         for (int item = 0; item < 3; item++) {
@@ -391,7 +427,7 @@ public final class ActsBoundsTest {
     }
 
     private static void moveExceptions() {
-        Expect.sentence("move: Throws `IndexOutOfBoundsException` if there is no such item, or no item with the number to");
+        Expect.sentence("Promise 31", "Throws `IndexOutOfBoundsException` if there is no such item, or no item with the number to");
         NewsReel x = made();
         Expect.throwsIndexAround("move of", item -> x.move(item, 0), 3);
         Expect.throwsIndexAround("move to", to -> x.move(0, to), 3);
@@ -404,7 +440,7 @@ public final class ActsBoundsTest {
     // ---- undo
 
     private static void latestEightActs() {
-        Expect.sentence("The latest 8 acts that were done can be undone.");
+        Expect.sentence("ACTS", "The latest 8 acts that were done can be undone.");
         for (int acts = 0; acts <= 18; acts++) {
             NewsReel x = new NewsReel();
             for (int slack = 1; slack <= acts; slack++) {
@@ -423,7 +459,7 @@ public final class ActsBoundsTest {
     }
 
     private static void nothingToUndo() {
-        Expect.sentence("Returns the number of acts that can still be undone; NONE if there is none to undo.");
+        Expect.sentence("Promise 38", "Returns the number of acts that can still be undone; NONE if there is none to undo.");
         NewsReel x = new NewsReel();
         Expect.due("undo of a new object", x.undo(), -1);
         Expect.due("undo again", x.undo(), -1);
@@ -439,7 +475,7 @@ public final class ActsBoundsTest {
 
     /** Acts and undos by turns, against a list of what SLACK was. */
     private static void undoRing() {
-        Expect.sentence("Undoes the latest act that can be undone");
+        Expect.sentence("Promise 38", "Undoes the latest act that can be undone");
         NewsReel x = new NewsReel();
         java.util.ArrayList<Integer> ahead = new java.util.ArrayList<>();
         int[] rounds = {3, -1, 9, -4, 2, -7, 8, -3, 12, -9, 1, -2, 7, -6, 10, -8};
@@ -468,7 +504,8 @@ public final class ActsBoundsTest {
     }
 
     private static void undoEachAct() {
-        Expect.sentence("everything but the accounts, the text buffer, the latest error, the output and the saved states is as it was ahead of it");
+        Expect.sentence("Promise 38",
+                "everything but the accounts, the text buffer, the latest error, the output and the saved states is as it was ahead of it");
         undone("edit", x -> Expect.edit(x, "map 1 3;"), 1);
         undone("say", x -> Expect.say(x, "a b."), 2);
         undone("assemble", x -> x.assemble(), 3);
@@ -497,7 +534,7 @@ public final class ActsBoundsTest {
     }
 
     private static void undoKeeps() {
-        Expect.sentence("everything but the accounts, the text buffer, the latest error, the output and the saved states");
+        Expect.sentence("Promise 38", "everything but the accounts, the text buffer, the latest error, the output and the saved states");
         NewsReel x = made();
         x.setSlack(9);
         x.save(0);
@@ -520,18 +557,20 @@ public final class ActsBoundsTest {
     // ---- saved states
 
     private static void slots() {
-        Expect.sentence("`slot`: 0 or 1; Throws `IllegalArgumentException` if slot is out of range");
+        Expect.sentence("Promise 39", "`slot`: 0 or 1", "Throws `IllegalArgumentException` if slot is out of range");
         NewsReel x = new NewsReel();
         Expect.throwsArgumentAround("save", slot -> { x.save(slot); return 0; }, 0, 1);
-        Expect.throwsArgumentAround("restore", slot -> { x.restore(slot); return 0; }, 0, 1);
         x.save(0);
         x.save(1);
         Expect.throwsArgumentAround("save", slot -> { x.save(slot); return 0; }, 0, 1);
+        Expect.sentence("Promise 40", "`slot`: 0 or 1", "Throws `IllegalArgumentException` if slot is out of range");
         Expect.throwsArgumentAround("restore", slot -> { x.restore(slot); return 0; }, 0, 1);
+        NewsReel none = new NewsReel();
+        Expect.throwsArgumentAround("restore of a new object", slot -> { none.restore(slot); return 0; }, 0, 1);
     }
 
     private static void nothingSaved() {
-        Expect.sentence("Throws `IllegalStateException` if nothing is saved there");
+        Expect.sentence("Promise 40", "Throws `IllegalStateException` if nothing is saved there");
         for (int slot = 0; slot <= 1; slot++) {
             int it = slot;
             NewsReel x = new NewsReel();
@@ -549,7 +588,7 @@ public final class ActsBoundsTest {
     }
 
     private static void saveReplaces() {
-        Expect.sentence("a state that is already saved there is replaced");
+        Expect.sentence("Promise 39", "a state that is already saved there is replaced");
         NewsReel x = new NewsReel();
         x.setSlack(1);
         x.save(0);
@@ -573,7 +612,8 @@ public final class ActsBoundsTest {
     }
 
     private static void saveKeepsActs() {
-        Expect.sentence("Saves everything but the accounts, the acts that can be undone, the text buffer, the latest error, the output and the saved states.");
+        Expect.sentence("Promise 39",
+                "Saves everything but the accounts, the acts that can be undone, the text buffer, the latest error, the output and the saved states.");
         NewsReel x = busy();
         String state = Expect.state(x);
         String rest = Expect.rest(x);
@@ -590,7 +630,7 @@ public final class ActsBoundsTest {
     }
 
     private static void savedStays() {
-        Expect.sentence("Brings back a saved state, which stays saved");
+        Expect.sentence("Promise 40", "Brings back a saved state, which stays saved");
         NewsReel x = made();
         String state = Expect.state(x);
         x.save(1);
@@ -612,7 +652,7 @@ public final class ActsBoundsTest {
     }
 
     private static void restoreForgetsActs() {
-        Expect.sentence("no act can be undone then");
+        Expect.sentence("Promise 40", "no act can be undone then");
         NewsReel x = new NewsReel();
         x.save(0);
         for (int slack = 1; slack <= 8; slack++) {
@@ -635,7 +675,8 @@ public final class ActsBoundsTest {
     }
 
     private static void restoreKeeps() {
-        Expect.sentence("Saves everything but the accounts, the text buffer, the latest error, the output and the saved states.");
+        Expect.sentence("Promise 39",
+                "Saves everything but the accounts, the acts that can be undone, the text buffer, the latest error, the output and the saved states.");
         NewsReel x = made();
         x.save(0);
         Expect.edit(x, "shot 9;");

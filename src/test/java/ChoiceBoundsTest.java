@@ -37,7 +37,7 @@ public final class ChoiceBoundsTest {
     }
 
     private static void atLeastTheVoice() {
-        Expect.sentence("whose LENGTHS together are at least the frame in which the voice ends");
+        Expect.sentence("THE LEAST CUTTING", "whose LENGTHS together are at least the frame in which the voice ends");
         noBest("shot 0 39;least 1;speed 20;", FORTY);
         best("shot 0 40;least 1;speed 20;", FORTY, 1, 0, 1);
         best("shot 0 41;least 1;speed 20;", FORTY, 1, 1, 1);
@@ -47,7 +47,7 @@ public final class ChoiceBoundsTest {
     }
 
     private static void lastHasLeast() {
-        Expect.sentence("of which the one with the greatest number, less what they have too much, has LEAST frames or more");
+        Expect.sentence("THE LEAST CUTTING", "of which the one with the greatest number, less what they have too much, has LEAST frames or more");
         best("shot 0 47;least 40;speed 20;", FORTY, 1, 7, 1);
         noBest("shot 0 47;least 41;speed 20;", FORTY);
         best("shot 0 35;shot 1 10;least 5;speed 20;", FORTY, 3, 5, 2);
@@ -63,7 +63,7 @@ public final class ChoiceBoundsTest {
     }
 
     private static void emptySet() {
-        Expect.sentence("(The empty set is none.)");
+        Expect.sentence("THE LEAST CUTTING", "(The empty set is none.)");
         noBest("", "");
         noBest("shot 0 9;least 1;", "");
         noBest("", FORTY);
@@ -73,7 +73,7 @@ public final class ChoiceBoundsTest {
     }
 
     private static void notBanned() {
-        Expect.sentence("A choice is a set of shots that are not banned");
+        Expect.sentence("THE LEAST CUTTING", "A choice is a set of shots that are not banned");
         NewsReel x = Expect.made("shot 0 40;shot 1 20;shot 2 20;shot 1 45;ban 0 1 4;ban 1 2 3;ban 2 3 3;ban 1 5 5;ban 0 6 6;speed 20;", "", FORTY);
         int[][] due = {{1, 0, 1}, {6, 0, 2}, {-1, -1, -1}, {-1, -1, -1}, {6, 0, 2}, {1, 0, 1}, {6, 0, 2}, {1, 0, 1}};
         for (int week = 0; week < due.length; week++) {
@@ -83,26 +83,26 @@ public final class ChoiceBoundsTest {
     }
 
     private static void leastWaste() {
-        Expect.sentence("The best choice is the one with the least waste");
+        Expect.sentence("THE LEAST CUTTING", "The best choice is the one with the least waste");
         best("shot 0 42;shot 1 41;shot 2 43;speed 20;", FORTY, 2, 1, 1);
         best("shot 0 41;shot 1 10;shot 2 10;shot 3 10;shot 4 10;speed 20;", FORTY, 30, 0, 4);
         best("shot 0 42;shot 1 20;shot 2 21;speed 20;", FORTY, 6, 1, 2);
     }
 
     private static void fewestShots() {
-        Expect.sentence("of several the one with the fewest shots");
+        Expect.sentence("THE LEAST CUTTING", "of several the one with the fewest shots");
         best("shot 0 20;shot 1 20;shot 2 40;speed 20;", FORTY, 4, 0, 1);
         best("shot 0 10;shot 1 10;shot 2 20;shot 3 15;shot 4 25;speed 20;", FORTY, 24, 0, 2);
         best("shot 0 22;shot 1 21;shot 2 43;speed 20;", FORTY, 4, 3, 1);
     }
 
     private static void leastNumber() {
-        Expect.sentence("of several the one whose set is the least number");
+        Expect.sentence("THE LEAST CUTTING", "of several the one whose set is the least number");
         best("shot 0 40;shot 0 40;shot 0 40;speed 20;", FORTY, 1, 0, 1);
         best("shot 0 20;shot 0 20;shot 0 20;speed 20;", FORTY, 3, 0, 2);
         best("shot 0 10;shot 0 25;shot 0 15;shot 0 30;speed 20;", FORTY, 6, 0, 2);
         best("shot 0 9;shot 0 41;shot 0 41;speed 20;", FORTY, 2, 1, 1);
-        Expect.sentence("Sets are told as the sum of 2 to the power of the numbers of their members.");
+        Expect.sentence("THE LEAST CUTTING", "Sets are told as the sum of 2 to the power of the numbers of their members.");
         best("shot 0 1;".repeat(11) + "shot 0 40;speed 20;", FORTY, 2048, 0, 1);
         best("shot 0 20;" + "shot 0 1;".repeat(10) + "shot 0 20;speed 20;", FORTY, 2049, 0, 2);
     }
@@ -114,7 +114,7 @@ public final class ChoiceBoundsTest {
     }
 
     private static void allShots() {
-        Expect.sentence("There are 0 to 12 shots; A choice is a set of shots");
+        Expect.sentence("THE LIBRARY", "There are 0 to 12 shots");
         best("shot 0 10;".repeat(12) + "speed 20;", "a a a a a a.", 4095, 0, 12);
         best("shot 0 11;".repeat(12) + "least 11;speed 20;", "a a a a a a.", -1, -1, -1);
         best("shot 0 400;".repeat(12) + "speed 20;pause 50;", longestVoice(5), 4095, 0, 12);
@@ -123,19 +123,21 @@ public final class ChoiceBoundsTest {
     }
 
     private static void greatestWaste() {
-        Expect.sentence("what they have too much is the waste");
+        Expect.sentence("THE LEAST CUTTING", "what they have too much is the waste");
         best("shot 0 400;least 1;speed 1;", "a.", 1, 399, 1);
         noBest("shot 0 400;least 2;speed 1;", "a.");
         best("shot 0 400;least 50;speed 10;", "a a a a a.", 1, 350, 1);
     }
 
     private static void bestExceptions() {
-        Expect.sentence("best: Throws `IllegalArgumentException` if what is out of range; NONE if there is no choice");
+        Expect.sentence("Promise 22", "Throws `IllegalArgumentException` if what is out of range", "NONE if there is no choice");
         NewsReel none = new NewsReel();
         Expect.dueRow("best of none", none::best, -1, -1, -1);
         Expect.throwsArgumentAround("best of none", none::best, 0, 2);
         NewsReel one = Expect.made("shot 0 40;speed 20;", "", FORTY);
         Expect.throwsArgumentAround("best", one::best, 0, 2);
+        Expect.sentence("Promise 22", "0: its set; 1: its waste; 2: how many shots it has");
+        Expect.dueRow("best", one::best, 1, 0, 1);
     }
 
     private static void bestWeek(String library, int week, int due) {
@@ -146,7 +148,7 @@ public final class ChoiceBoundsTest {
     }
 
     private static void weeks() {
-        Expect.sentence("Returns the week from WEEK to 99 in which the best choice would have the least waste");
+        Expect.sentence("Promise 23", "Returns the week from WEEK to 99 in which the best choice would have the least waste");
         bestWeek("shot 0 40;ban 0 0 98;", 0, 99);
         bestWeek("shot 0 40;ban 0 0 98;", 98, 99);
         bestWeek("shot 0 40;ban 0 0 98;", 99, 99);
@@ -160,7 +162,7 @@ public final class ChoiceBoundsTest {
     }
 
     private static void firstWeek() {
-        Expect.sentence("of several the first one");
+        Expect.sentence("Promise 23", "of several the first one");
         bestWeek("shot 0 40;", 0, 0);
         bestWeek("shot 0 40;", 99, 99);
         bestWeek("shot 0 40;", 7, 7);
@@ -172,7 +174,7 @@ public final class ChoiceBoundsTest {
     }
 
     private static void noWeek() {
-        Expect.sentence("NONE if there is a choice in none of them");
+        Expect.sentence("Promise 23", "NONE if there is a choice in none of them");
         bestWeek("", 0, -1);
         bestWeek("shot 0 39;", 0, -1);
         bestWeek("shot 0 40;ban 0 0 99;", 0, -1);
@@ -189,7 +191,7 @@ public final class ChoiceBoundsTest {
     }
 
     private static void speeds() {
-        Expect.sentence("Returns the SPEED (1 to 20) with which the END and the frame in which the voice ends would differ least");
+        Expect.sentence("Promise 24", "Returns the SPEED (1 to 20) with which the END and the frame in which the voice ends would differ least");
         bestSpeed("", "b b.", 0, 1);
         bestSpeed("map 0 1;", "b b.", 0, 1);
         bestSpeed("map 0 2;", "b b.", 0, 1);
@@ -201,10 +203,12 @@ public final class ChoiceBoundsTest {
         bestSpeed("map 0 40;", "b. b.", 50, 1);
         bestSpeed("map 0 90;", "b. b.", 50, 20);
         bestSpeed("map 0 60;", "aba b. ab.", 0, 15);
+        bestSpeed("map 0 13;", "b.", 50, 13);
+        bestSpeed("map 0 30;", "aba.", 50, 15);
     }
 
     private static void speedsOfEqualGap() {
-        Expect.sentence("of several the least");
+        Expect.sentence("Promise 24", "of several the least");
         bestSpeed("map 0 3;", "b b.", 0, 1);
         bestSpeed("map 0 5;", "b b.", 0, 2);
         bestSpeed("map 0 39;", "b b.", 0, 19);
@@ -215,7 +219,9 @@ public final class ChoiceBoundsTest {
     }
 
     private static void assemble() {
-        Expect.sentence("its shots as cuts by ascending numbers, all whole but the last one, whose end is cut by the waste");
+        Expect.sentence("Promise 27",
+                "its shots as cuts by ascending numbers, all whole but the last one, whose end is cut by the waste",
+                "Returns the waste");
         NewsReel x = Expect.made("shot 0 12;shot 1 90;shot 0 13;shot 2 20;speed 20;", "", FORTY);
         Expect.due("assemble", x.assemble(), 5);
         Expect.dueText("the reel", Expect.reelText(x), "shot 0;shot 2;shot 3 from 0 to 14;");
@@ -231,7 +237,7 @@ public final class ChoiceBoundsTest {
     }
 
     private static void assembleOne() {
-        Expect.sentence("all whole but the last one");
+        Expect.sentence("Promise 27", "all whole but the last one");
         NewsReel whole = Expect.made("shot 0 40;speed 20;", "", FORTY);
         Expect.due("assemble of one shot", whole.assemble(), 0);
         Expect.dueText("the reel of one shot", Expect.reelText(whole), "shot 0;");
@@ -244,7 +250,7 @@ public final class ChoiceBoundsTest {
     }
 
     private static void assembleAll() {
-        Expect.sentence("There are 0 to 12 shots");
+        Expect.sentence("THE LIBRARY", "There are 0 to 12 shots");
         NewsReel x = Expect.made("shot 0 10;".repeat(11) + "shot 0 400;speed 20;", "", "a ".repeat(25) + ".");
         Expect.due("assemble of twelve shots", x.assemble(), 0);
         Expect.dueRow("END and the voice's end", what -> x.reel(1 + what), 500, 500);
@@ -258,7 +264,7 @@ public final class ChoiceBoundsTest {
     }
 
     private static void assembleRefused() {
-        Expect.sentence("or minus the reason: 3 there is no choice");
+        Expect.sentence("Promise 27", "or minus the reason: 3 there is no choice");
         String[] libraries = {"", "shot 0 39;speed 20;", "shot 0 90;ban 0 0 0;speed 20;", "shot 0 90;least 41;speed 20;"};
         for (String library : libraries) {
             NewsReel x = Expect.made(library + "map a;", "mix 2{map 0 9;map 0 9;};", FORTY);
@@ -271,7 +277,7 @@ public final class ChoiceBoundsTest {
     }
 
     private static void assembleReplaces() {
-        Expect.sentence("Makes the reel anew of the best choice");
+        Expect.sentence("Promise 27", "Makes the reel anew of the best choice");
         NewsReel x = Expect.made("shot 0 40;map a;speed 20;", "repeat 1{" + "map 0 1;".repeat(29) + "};", FORTY);
         String state = Expect.state(x);
         Expect.due("assemble in place of 30 items", x.assemble(), 0);

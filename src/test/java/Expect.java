@@ -22,9 +22,9 @@ final class Expect {
     private Expect() {
     }
 
-    /** The words of the document that the answers from here on are held to. */
-    static void sentence(String words) {
-        sentence = words;
+    /** The words of the document that the answers from here on are held to, and the promise or term where they stand. */
+    static void sentence(String place, String... words) {
+        sentence = place + ": " + String.join(" .. ", words);
     }
 
     private static void compare(boolean same, String call, Object got, Object want) {

@@ -17,7 +17,7 @@ public final class FaultsBoundsTest {
     }
 
     private static void bannedShots() {
-        Expect.sentence("(1) each piece of a banned shot");
+        Expect.sentence("FAULTS", "(1) each piece of a banned shot");
         NewsReel x = Expect.made("shot 0 9;shot 1 9;map a;ban 0 3 5;ban 1 5 5;", "repeat 2{shot 0;shot 1 from 0 to 0;map 0 9;};", "");
         int[] weeks = {0, 2, 3, 4, 5, 6, 99};
         int[] due = {0, 0, 2, 2, 4, 0, 0};
@@ -43,7 +43,7 @@ public final class FaultsBoundsTest {
     }
 
     private static void namesOfMaps() {
-        Expect.sentence("(2) each word that is the NAME of a map, if this map is not on the screen in the frame in which the word begins");
+        Expect.sentence("FAULTS", "(2) each word that is the NAME of a map, if this map is not on the screen in the frame in which the word begins");
         names("", 1);
         names("map 0 1;", 1);
         names("map 0 2;", 1);
@@ -69,7 +69,7 @@ public final class FaultsBoundsTest {
     }
 
     private static void namesInMixes() {
-        Expect.sentence("On the screen is, of the pieces that are there, the one with the greatest number.");
+        Expect.sentence("THE REEL", "On the screen is, of the pieces that are there, the one with the greatest number.");
         names("mix 1{map 0 3;shot 0;};", 1);
         names("mix 1{map 0 4;shot 0;};", 0);
         names("mix 1{shot 0 from 0 to 2;map 0 2;};", 0);
@@ -83,7 +83,7 @@ public final class FaultsBoundsTest {
     }
 
     private static void leastFrames() {
-        Expect.sentence("(3) each piece that is shorter than LEAST");
+        Expect.sentence("FAULTS", "(3) each piece that is shorter than LEAST");
         least(1, 1, 0);
         least(2, 1, 2);
         least(2, 2, 0);
@@ -106,7 +106,7 @@ public final class FaultsBoundsTest {
     }
 
     private static void sameCamera() {
-        Expect.sentence("(4) each piece of a shot, if the piece ahead of it is one of a shot with the same CAMERA");
+        Expect.sentence("FAULTS", "(4) each piece of a shot, if the piece ahead of it is one of a shot with the same CAMERA");
         cameras("");
         cameras("shot 0;");
         cameras("shot 0;shot 0;", 1);
@@ -130,7 +130,7 @@ public final class FaultsBoundsTest {
     }
 
     private static void slack() {
-        Expect.sentence("(5) one, if the END and the frame in which the voice ends differ by more than SLACK");
+        Expect.sentence("FAULTS", "(5) one, if the END and the frame in which the voice ends differ by more than SLACK");
         for (int slack : new int[] {0, 1, 99, 100}) {
             slack(slack, 200 - slack - 1, 1);
             slack(slack, 200 - slack, 0);
@@ -149,14 +149,17 @@ public final class FaultsBoundsTest {
     }
 
     private static void order() {
-        Expect.sentence("The faults are, in this order: (1) .. (5). Those of one kind come by the numbers of pieces or words.");
+        Expect.sentence("FAULTS", "The faults are, in this order", "Those of one kind come by the numbers of pieces or words.");
         NewsReel x = Expect.made("shot 0 30;shot 1 7;map a;ban 0 0 0;ban 1 0 0;", "shot 1;shot 1;shot 0;shot 0;", "a b a.");
         Expect.dueRow("the kind of fault", i -> x.fault(i, 0), 1, 1, 1, 1, 2, 2, 3, 3, 4, 4, 5);
         Expect.dueRow("the place of fault", i -> x.fault(i, 1), 0, 1, 2, 3, 0, 2, 0, 1, 1, 3, -1);
     }
 
     private static void kinds() {
-        Expect.sentence("faults: `kind`: 1 to 5; 0 for all kinds; Throws `IllegalArgumentException` if kind is out of range");
+        Expect.sentence("Promise 17",
+                "`kind`: 1 to 5; 0 for all kinds",
+                "Returns how many faults of this kind there are.",
+                "Throws `IllegalArgumentException` if kind is out of range");
         NewsReel x = Expect.made("shot 0 30;shot 1 7;map a;ban 0 0 0;ban 1 0 0;", "shot 1;shot 1;shot 0;shot 0;", "a b a.");
         Expect.dueRow("faults", x::faults, 11, 4, 2, 2, 2, 1);
         Expect.throwsArgumentAround("faults", x::faults, 0, 5);
@@ -166,7 +169,7 @@ public final class FaultsBoundsTest {
     }
 
     private static void mostFaults() {
-        Expect.sentence("There are at most 60 pieces; The voice is a row of at most 60 words.");
+        Expect.sentence("Promise 18", "`index`: a fault, from 0 on, in their order");
         NewsReel x = Expect.made("shot 0 1;map a;ban 0 0 99;", "repeat 6{repeat 5{shot 0;shot 0;};};", "a.".repeat(60));
         Expect.dueRow("faults", x::faults, 240, 60, 60, 60, 59, 1);
         int[] index = {0, 59, 60, 119, 120, 179, 180, 238, 239};
@@ -180,18 +183,18 @@ public final class FaultsBoundsTest {
     }
 
     private static void faultNumbers() {
-        Expect.sentence("0: its kind; 1: the piece or word (NONE of kind 5); Throws `IndexOutOfBoundsException` if there is no such fault");
+        Expect.sentence("Promise 18", "0: its kind; 1: the piece or word (NONE of kind 5)", "Throws `IndexOutOfBoundsException` if there is no such fault");
         NewsReel none = new NewsReel();
         Expect.throwsIndexAround("a fault of none", i -> none.fault(i, 0), 0);
         NewsReel one = Expect.voice("a.", 1);
         Expect.dueRow("the only fault", what -> one.fault(0, what), 5, -1);
         Expect.throwsIndexAround("a fault of one", i -> one.fault(i, 1), 1);
-        Expect.sentence("fault: Throws `IllegalArgumentException` if what is out of range");
+        Expect.sentence("Promise 18", "Throws `IllegalArgumentException` if what is out of range");
         Expect.throwsArgumentAround("fault 0", what -> one.fault(0, what), 0, 1);
     }
 
     private static void fits() {
-        Expect.sentence("Returns whether there is no fault.");
+        Expect.sentence("Promise 19", "Returns whether there is no fault.");
         String library = "shot 0 30;shot 1 30;map a;ban 1 1 1;speed 20;slack 10;week ";
         fits(true, library + "0;", "", "");
         fits(true, library + "0;", "map 0 10;shot 1;", "a b.");
@@ -210,7 +213,7 @@ public final class FaultsBoundsTest {
     }
 
     private static void nothingChanges() {
-        Expect.sentence("---- faults, choices (nothing changes)");
+        Expect.sentence("EXCEPTIONS", "---- faults, choices (nothing changes)");
         NewsReel x = Expect.made("shot 0 30;shot 1 7;map a;ban 0 5 50;", "shot 1;map 0 4;mix 3{shot 0;shot 0;};", "a b a.");
         x.writeVoice();
         String state = Expect.state(x);

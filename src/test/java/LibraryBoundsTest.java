@@ -28,7 +28,7 @@ public final class LibraryBoundsTest {
     }
 
     private static void shots() {
-        Expect.sentence("There are 0 to 12 shots, numbered from 0");
+        Expect.sentence("THE LIBRARY", "There are 0 to 12 shots, numbered from 0");
         NewsReel none = Expect.library("", 0);
         Expect.due("shots", none.count(0), 0);
         Expect.throwsIndexAround("a shot of none", i -> none.shot(i, 0), 0);
@@ -39,7 +39,7 @@ public final class LibraryBoundsTest {
         Expect.due("shots", all.count(0), 12);
         Expect.throwsIndexAround("a shot of twelve", i -> all.shot(i, 0), 12);
         Expect.library(TWELVE_SHOTS + "shot 0 1;", -1, 4, TWELVE_SHOTS.length());
-        Expect.sentence("each has a CAMERA (0 to 5) and a LENGTH in frames (1 to 400)");
+        Expect.sentence("THE LIBRARY", "each has a CAMERA (0 to 5) and a LENGTH in frames (1 to 400)");
         Expect.dueRow("CAMERA of shot", i -> all.shot(i, 0), 0, 5, 2, 2, 2, 2, 2, 2, 2, 2, 2, 0);
         Expect.dueRow("LENGTH of shot", i -> all.shot(i, 1), 1, 400, 50, 50, 50, 50, 50, 50, 50, 50, 50, 399);
         Expect.library("shot 6 1;", -1, 2, 5);
@@ -48,7 +48,7 @@ public final class LibraryBoundsTest {
     }
 
     private static void maps() {
-        Expect.sentence("There are 0 to 6 maps, numbered from 0");
+        Expect.sentence("THE LIBRARY", "There are 0 to 6 maps, numbered from 0");
         NewsReel none = Expect.library("shot 0 1;", 1);
         Expect.due("maps", none.count(1), 0);
         Expect.throwsIndexAround("a map of none", i -> none.map(i, 0), 0);
@@ -60,7 +60,7 @@ public final class LibraryBoundsTest {
     }
 
     private static void names() {
-        Expect.sentence("each has a NAME (1 to 8 letters a to z; no two alike)");
+        Expect.sentence("THE LIBRARY", "each has a NAME (1 to 8 letters a to z; no two alike)");
         Expect.library("map ;", -1, 1, 4);
         Expect.library("map abcdefghi;", -1, 2, 4);
         Expect.library("map " + "a".repeat(496), -1, 2, 4);
@@ -73,7 +73,7 @@ public final class LibraryBoundsTest {
     }
 
     private static void bans() {
-        Expect.sentence("There are 0 to 10 bans, numbered from 0; each has a CAMERA and weeks FROM to TO (0 to 99, FROM at most TO).");
+        Expect.sentence("THE LIBRARY", "There are 0 to 10 bans, numbered from 0; each has a CAMERA and weeks FROM to TO (0 to 99, FROM at most TO).");
         NewsReel none = Expect.library("shot 0 1;", 1);
         Expect.due("bans", none.count(2), 0);
         Expect.throwsIndexAround("a ban of none", i -> none.ban(i, 0), 0);
@@ -93,7 +93,7 @@ public final class LibraryBoundsTest {
     }
 
     private static void bannedShots() {
-        Expect.sentence("A shot is banned if a ban has its CAMERA and the present WEEK (0 to 99; 0 at first) is one of its weeks.");
+        Expect.sentence("THE LIBRARY", "A shot is banned if a ban has its CAMERA and the present WEEK (0 to 99; 0 at first) is one of its weeks.");
         NewsReel x = Expect.library("shot 0 9;shot 5 9;shot 3 9;ban 0 0 0;ban 5 99 99;ban 0 20 30;ban 0 31 32;ban 5 25 25;ban 1 0 99;", 3);
         int[] weeks = {0, 1, 19, 20, 24, 25, 26, 30, 31, 32, 33, 98, 99};
         int[] first = {1, 0, 0, 1, 1, 1, 1, 1, 1, 1, 0, 0, 0};
@@ -114,7 +114,8 @@ public final class LibraryBoundsTest {
     }
 
     private static void settings() {
-        Expect.sentence("SPEED (1 to 20; 4 at first), PAUSE (0 to 50; 10 at first), LEAST (1 to 50; 8 at first) and SLACK (0 to 100; 0 at first)");
+        Expect.sentence("THE LIBRARY",
+                "SPEED (1 to 20; 4 at first), PAUSE (0 to 50; 10 at first), LEAST (1 to 50; 8 at first) and SLACK (0 to 100; 0 at first)");
         setting(3, "week", 0, 99);
         setting(4, "speed", 1, 20);
         setting(5, "pause", 0, 50);
@@ -132,7 +133,7 @@ public final class LibraryBoundsTest {
     }
 
     private static void atFirst() {
-        Expect.sentence("what the text does not tell is as at first");
+        Expect.sentence("Promise 4", "what the text does not tell is as at first");
         int[] first = {0, 4, 10, 8, 0};
         String[] names = {"week", "speed", "pause", "least", "slack"};
         for (int told = 0; told < 5; told++) {
@@ -145,7 +146,9 @@ public final class LibraryBoundsTest {
     }
 
     private static void countsOfNothing() {
-        Expect.sentence("0: shots; 1: maps; 2: bans; .. 13: acts that can be undone");
+        Expect.sentence("Promise 7",
+                "0: shots; 1: maps; 2: bans; 3: WEEK; 4: SPEED; 5: PAUSE; 6: LEAST; 7: SLACK",
+                "10: words; 11: syllables of all words; 12: sentences; 13: acts that can be undone");
         NewsReel x = Expect.library("week 0;speed 1;pause 0;least 1;slack 0;", 0);
         Expect.dueRow("count", x::count, 0, 0, 0, 0, 1, 0, 1, 0, 0, 0, 0, 0, 0, 0);
     }
@@ -165,7 +168,8 @@ public final class LibraryBoundsTest {
     }
 
     private static void countsOfItems() {
-        Expect.sentence("8: items of the reel (not those in blocks); 9: all items (also those in blocks, each once, however often it is repeated)");
+        Expect.sentence("Promise 7",
+                "8: items of the reel (not those in blocks); 9: all items (also those in blocks, each once, however often it is repeated)");
         items("", 0, 0);
         items("shot 0;", 1, 1);
         items("repeat 9{};", 1, 1);
@@ -182,13 +186,15 @@ public final class LibraryBoundsTest {
     }
 
     private static void countExceptions() {
-        Expect.sentence("count: Throws `IllegalArgumentException` if what is out of range");
+        Expect.sentence("Promise 7", "Throws `IllegalArgumentException` if what is out of range");
         NewsReel x = new NewsReel();
         Expect.throwsArgumentAround("count", x::count, 0, 13);
     }
 
     private static void shotNumbers() {
-        Expect.sentence("0: its CAMERA; 1: its LENGTH; 2: 1 if it is banned, else 0; 3: its pieces; 4: the frames of these together");
+        Expect.sentence("Promise 8",
+                "0: its CAMERA; 1: its LENGTH; 2: 1 if it is banned, else 0; 3: its pieces; 4: the frames of these together",
+                "Throws `IndexOutOfBoundsException` if there is no such shot");
         NewsReel x = Expect.made("shot 5 400;shot 0 1;shot 2 7;map a;ban 5 0 0;", "repeat 6{repeat 9{shot 0;};};"
                 + "repeat 5{shot 1;};map 0 400;", "");
         Expect.dueRow("shot 0", what -> x.shot(0, what), 5, 400, 1, 54, 54 * 400);
@@ -196,7 +202,7 @@ public final class LibraryBoundsTest {
         Expect.dueRow("shot 2 without pieces", what -> x.shot(2, what), 2, 7, 0, 0, 0);
         Expect.edit(x, "repeat 6{repeat 5{shot 0;shot 0 from 399 to 399;};};");
         Expect.dueRow("shot 0 of all pieces", what -> x.shot(0, what), 5, 400, 1, 60, 30 * 401);
-        Expect.sentence("shot: Throws `IllegalArgumentException` if what is out of range");
+        Expect.sentence("Promise 8", "Throws `IllegalArgumentException` if what is out of range");
         for (int shot = 0; shot < 3; shot++) {
             int it = shot;
             Expect.throwsArgumentAround("shot " + it, what -> x.shot(it, what), 0, 4);
@@ -204,7 +210,9 @@ public final class LibraryBoundsTest {
     }
 
     private static void mapNumbers() {
-        Expect.sentence("0: the letters of its NAME; 1: words that are its NAME; 2: its pieces; 3: of its words those that are no fault");
+        Expect.sentence("Promise 9",
+                "0: the letters of its NAME; 1: words that are its NAME; 2: its pieces; 3: of its words those that are no fault",
+                "Throws `IndexOutOfBoundsException` if there is no such map");
         NewsReel x = Expect.made("map a;map bb;map abcdefgh;speed 1;pause 0;", "repeat 6{repeat 5{map 0 1;map 0 1;};};", "a ".repeat(60) + ".");
         Expect.dueRow("map 0", what -> x.map(0, what), 1, 60, 60, 60);
         Expect.dueRow("map 1 without words and pieces", what -> x.map(1, what), 2, 0, 0, 0);
@@ -217,24 +225,26 @@ public final class LibraryBoundsTest {
         Expect.dueRow("map 2", what -> x.map(2, what), 8, 1, 1, 1);
         Expect.dueRow("map 1", what -> x.map(1, what), 2, 1, 0, 0);
         Expect.dueRow("map 0", what -> x.map(0, what), 1, 0, 0, 0);
-        Expect.sentence("map: Throws `IllegalArgumentException` if what is out of range");
+        Expect.sentence("Promise 9", "Throws `IllegalArgumentException` if what is out of range");
         Expect.throwsArgumentAround("map 0", what -> x.map(0, what), 0, 3);
         Expect.throwsArgumentAround("map 2", what -> x.map(2, what), 0, 3);
     }
 
     private static void banNumbers() {
-        Expect.sentence("0: its CAMERA; 1: FROM; 2: TO; 3: how many shots have its CAMERA");
+        Expect.sentence("Promise 10",
+                "0: its CAMERA; 1: FROM; 2: TO; 3: how many shots have its CAMERA",
+                "Throws `IndexOutOfBoundsException` if there is no such ban");
         NewsReel x = Expect.library("shot 0 1;".repeat(12) + "ban 0 0 0;ban 5 99 99;ban 1 0 99;", 12);
         Expect.dueRow("ban 0", what -> x.ban(0, what), 0, 0, 0, 12);
         Expect.dueRow("ban 1", what -> x.ban(1, what), 5, 99, 99, 0);
         Expect.dueRow("ban 2", what -> x.ban(2, what), 1, 0, 99, 0);
-        Expect.sentence("ban: Throws `IllegalArgumentException` if what is out of range");
+        Expect.sentence("Promise 10", "Throws `IllegalArgumentException` if what is out of range");
         Expect.throwsArgumentAround("ban 0", what -> x.ban(0, what), 0, 3);
         Expect.throwsArgumentAround("ban 2", what -> x.ban(2, what), 0, 3);
     }
 
     private static void loadReplaces() {
-        Expect.sentence("it replaces everything that acts can change, with an empty reel and an empty voice; no act can be undone then");
+        Expect.sentence("Promise 4", "it replaces everything that acts can change, with an empty reel and an empty voice", "no act can be undone then");
         NewsReel x = Expect.made("shot 0 9;map a;ban 0 0 0;week 9;", "repeat 2{shot 0;map 0 3;};", "a b.");
         x.setWeek(5);
         x.setVoice(7, 7);
@@ -246,7 +256,7 @@ public final class LibraryBoundsTest {
         Expect.due("acts that can be undone", x.count(13), 0);
         Expect.due("undo", x.undo(), -1);
         Expect.dueText("the state after undo", Expect.state(x), Expect.state(new NewsReel()));
-        Expect.sentence("Accounts and saved states stay.");
+        Expect.sentence("Promise 4", "Accounts and saved states stay.");
         Expect.dueRow("account", x::account, 5, 0, 0, 0, 0, 1, 0);
         Expect.dueText("the output", Expect.output(x), "a b.");
         Expect.due("the next act", x.setSlack(3), 0);
@@ -254,7 +264,7 @@ public final class LibraryBoundsTest {
     }
 
     private static void loadWithAnError() {
-        Expect.sentence("NONE if the text has an error (then nothing else changes)");
+        Expect.sentence("Promise 4", "NONE if the text has an error (then nothing else changes)");
         String[] wrong = {"shot 0 9", "week 5;week 5;", "shot 1 5;shot 6 1;", "map b;map b;", "shot 0 1;".repeat(13), "speed 9;ban 0 5 4;"};
         for (String text : wrong) {
             NewsReel x = Expect.made("shot 0 9;map a;ban 0 0 0;week 9;", "repeat 2{shot 0;map 0 3;};", "a b.");
@@ -275,7 +285,7 @@ public final class LibraryBoundsTest {
     }
 
     private static void loadKeepsSavedStates() {
-        Expect.sentence("Accounts and saved states stay.");
+        Expect.sentence("Promise 4", "Accounts and saved states stay.");
         NewsReel x = Expect.made("shot 5 400;map abcdefgh;ban 5 99 99;", "shot 0;map 0 400;", "abcdefgh.");
         String state = Expect.state(x);
         x.save(0);
@@ -290,7 +300,10 @@ public final class LibraryBoundsTest {
     }
 
     private static void setWeek() {
-        Expect.sentence("setWeek: `week`: 0 to 99; Throws `IllegalArgumentException` if week is out of range");
+        Expect.sentence("Promise 32",
+                "`week`: 0 to 99",
+                "Throws `IllegalArgumentException` if week is out of range",
+                "Returns how many shots are banned then.");
         NewsReel x = Expect.library("shot 0 9;shot 0 9;shot 5 9;ban 0 0 0;ban 5 99 99;week 50;", 3);
         Expect.throwsArgumentAround("setWeek", x::setWeek, 0, 99);
         Expect.due("WEEK after exceptions", x.count(3), 50);
@@ -299,7 +312,7 @@ public final class LibraryBoundsTest {
         Expect.due("WEEK", x.count(3), 0);
         Expect.due("setWeek of 99", x.setWeek(99), 1);
         Expect.due("WEEK", x.count(3), 99);
-        Expect.sentence("Sets WEEK (also to what it is).");
+        Expect.sentence("Promise 32", "Sets WEEK (also to what it is).");
         Expect.due("setWeek to what it is", x.setWeek(99), 1);
         Expect.due("acts", x.account(0), 3);
         Expect.due("undo", x.undo(), 2);
@@ -310,17 +323,17 @@ public final class LibraryBoundsTest {
     }
 
     private static void setSlack() {
-        Expect.sentence("setSlack: `slack`: 0 to 100; Throws `IllegalArgumentException` if slack is out of range");
+        Expect.sentence("Promise 34", "`slack`: 0 to 100", "Throws `IllegalArgumentException` if slack is out of range");
         NewsReel x = Expect.library("slack 50;", 0);
         Expect.throwsArgumentAround("setSlack", x::setSlack, 0, 100);
         Expect.due("SLACK after exceptions", x.count(7), 50);
         Expect.due("acts after exceptions", x.account(0), 0);
-        Expect.sentence("Returns SLACK before.");
+        Expect.sentence("Promise 34", "Returns SLACK before.");
         Expect.due("setSlack of 0", x.setSlack(0), 50);
         Expect.due("SLACK", x.count(7), 0);
         Expect.due("setSlack of 100", x.setSlack(100), 0);
         Expect.due("SLACK", x.count(7), 100);
-        Expect.sentence("Sets SLACK (also to what it is).");
+        Expect.sentence("Promise 34", "Sets SLACK (also to what it is).");
         Expect.due("setSlack to what it is", x.setSlack(100), 100);
         Expect.due("acts", x.account(0), 3);
         Expect.due("acts that can be undone", x.count(13), 3);

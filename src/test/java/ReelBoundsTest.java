@@ -17,11 +17,13 @@ public final class ReelBoundsTest {
         emptyBlocks();
         there();
         onTheScreen();
+        screen();
         endOfTheReel();
         pieceNumbers();
         pieceExceptions();
         reelNumbers();
         blocks();
+        longestPiece();
         share();
         edit();
         tooManyPieces();
@@ -37,7 +39,7 @@ public final class ReelBoundsTest {
     }
 
     private static void cuts() {
-        Expect.sentence("a cut of a shot (the frames FIRST to LAST, both with it, 0 to LENGTH less 1)");
+        Expect.sentence("THE REEL", "a cut of a shot (the frames FIRST to LAST, both with it, 0 to LENGTH less 1)");
         NewsReel x = Expect.made("shot 0 400;shot 1 1;", "shot 0 from 0 to 0;shot 0 from 399 to 399;shot 0 from 0 to 399;shot 0 from 0 to 398;"
                 + "shot 0 from 1 to 399;shot 1 from 0 to 0;", "");
         Expect.dueRow("FIRST of piece", i -> x.piece(i, 2), 0, 399, 0, 0, 1, 0);
@@ -55,14 +57,14 @@ public final class ReelBoundsTest {
     }
 
     private static void wholeShots() {
-        Expect.sentence("Without \"from\" a cut has the whole shot");
+        Expect.sentence("TEXTS", "Without \"from\" a cut has the whole shot");
         NewsReel x = Expect.made("shot 0 400;shot 1 1;", "shot 0;shot 1;", "");
         Expect.dueRow("piece 0", what -> x.piece(0, what), 0, 0, 0, 400, 0, 400, 0);
         Expect.dueRow("piece 1", what -> x.piece(1, what), 0, 1, 0, 1, 400, 401, 0);
     }
 
     private static void heldMaps() {
-        Expect.sentence("a map that is held for some frames (1 to 400)");
+        Expect.sentence("THE REEL", "a map that is held for some frames (1 to 400)");
         NewsReel x = made("map 0 1;map 1 400;");
         Expect.dueRow("piece 0", what -> x.piece(0, what), 1, 0, 0, 1, 0, 1, 0);
         Expect.dueRow("piece 1", what -> x.piece(1, what), 1, 1, 0, 400, 1, 401, 0);
@@ -71,7 +73,7 @@ public final class ReelBoundsTest {
     }
 
     private static void times() {
-        Expect.sentence("a repetition of a row of items (1 to 9 TIMES)");
+        Expect.sentence("THE REEL", "a repetition of a row of items (1 to 9 TIMES)");
         Expect.reel("repeat 1{shot 0;};", 1);
         Expect.reel("repeat 9{shot 0;};", 9);
         Expect.reel("repeat 9{repeat 1{map 0 1;shot 0;};};", 18);
@@ -80,14 +82,15 @@ public final class ReelBoundsTest {
     }
 
     private static void orderOfPieces() {
-        Expect.sentence("Its pieces are the cuts and maps in the order in which one comes to them, those of a repetition TIMES times one row behind the other.");
+        Expect.sentence("THE REEL",
+                "Its pieces are the cuts and maps in the order in which one comes to them, those of a repetition TIMES times one row behind the other.");
         NewsReel x = made("map 0 1;repeat 2{map 0 2;repeat 2{map 0 3;map 0 4;};map 0 5;};repeat 1{map 0 6;};map 0 7;");
         Expect.due("pieces", x.reel(0), 15);
         Expect.dueRow("frames of piece", i -> x.piece(i, 3), 1, 2, 3, 4, 3, 4, 5, 2, 3, 4, 3, 4, 5, 6, 7);
     }
 
     private static void sixtyPieces() {
-        Expect.sentence("There are at most 60 pieces, numbered from 0.");
+        Expect.sentence("THE REEL", "There are at most 60 pieces, numbered from 0.");
         NewsReel none = made("");
         Expect.throwsIndexAround("a piece of none", i -> none.piece(i, 0), 0);
         NewsReel one = made("shot 1;");
@@ -104,7 +107,9 @@ public final class ReelBoundsTest {
     }
 
     private static void begins() {
-        Expect.sentence("Piece 0 begins at frame 0; each other one begins as the one ahead of it ends, less its overlap.");
+        Expect.sentence("THE REEL",
+                "A piece is as long as it has frames.",
+                "Piece 0 begins at frame 0; each other one begins as the one ahead of it ends, less its overlap.");
         NewsReel x = made("mix 40{map 0 1;map 0 2;map 0 3;map 0 400;map 0 400;};map 0 1;");
         Expect.dueRow("begin of piece", i -> x.piece(i, 4), 0, 1, 2, 4, 364, 764);
         Expect.dueRow("end of piece", i -> x.piece(i, 5), 1, 3, 5, 404, 764, 765);
@@ -112,7 +117,7 @@ public final class ReelBoundsTest {
     }
 
     private static void halfOfTheShorter() {
-        Expect.sentence("but at most half (rounded down) of the shorter one of both pieces");
+        Expect.sentence("THE REEL", "but at most half (rounded down) of the shorter one of both pieces");
         int[] frames = {1, 2, 3, 4, 79, 80, 81, 400};
         int[] overlaps = {0, 1, 2, 39, 40};
         for (int ahead : frames) {
@@ -133,7 +138,7 @@ public final class ReelBoundsTest {
     }
 
     private static void mostOverlap() {
-        Expect.sentence("a mix of a row of items with an OVERLAP (0 to 40)");
+        Expect.sentence("THE REEL", "a mix of a row of items with an OVERLAP (0 to 40)");
         NewsReel least = made("mix 0{map 0 80;map 1 80;};");
         Expect.due("overlap of a mix of 0", least.piece(1, 6), 0);
         NewsReel most = made("mix 40{map 0 400;map 1 400;};");
@@ -148,7 +153,9 @@ public final class ReelBoundsTest {
     }
 
     private static void innermostMix() {
-        Expect.sentence("The overlap of a piece is that of the innermost mix that has both it and the piece ahead of it; it is 0 without such a mix.");
+        Expect.sentence("THE REEL",
+                "The overlap of a piece is that of the innermost mix that has both it and the piece ahead of it",
+                "it is 0 without such a mix.");
         overlaps("shot 0;shot 0;", 0, 0);
         overlaps("mix 4{shot 0;};", 0);
         overlaps("shot 0;mix 4{shot 0;};shot 0;", 0, 0, 0);
@@ -162,7 +169,7 @@ public final class ReelBoundsTest {
     }
 
     private static void doings() {
-        Expect.sentence("of the same doing of that mix; of two doings a mix around the repetition can have both");
+        Expect.sentence("THE REEL", "of the same doing of that mix; of two doings a mix around the repetition can have both");
         overlaps("repeat 3{mix 4{shot 0;};};", 0, 0, 0);
         overlaps("repeat 2{mix 4{shot 0;shot 0;};};", 0, 4, 0, 4);
         overlaps("mix 4{repeat 3{shot 0;};};", 0, 4, 4);
@@ -176,16 +183,19 @@ public final class ReelBoundsTest {
     }
 
     private static void emptyBlocks() {
-        Expect.sentence("(empty ones, too)");
+        Expect.sentence("Promise 13", "(empty ones, too)");
         overlaps("mix 4{};", new long[0]);
         overlaps("repeat 9{repeat 9{repeat 9{repeat 9{};};};};", new long[0]);
         overlaps("shot 0;mix 4{};shot 0;", 0, 0);
+        overlaps("repeat 9{};mix 4{shot 0;shot 0;};", 0, 4);
+        overlaps("mix 4{};repeat 2{shot 0;};", 0, 0);
+        overlaps("mix 9{repeat 9{};mix 4{shot 0;shot 0;};repeat 9{mix 3{};};};", 0, 4);
         overlaps("mix 4{mix 9{};shot 0;repeat 9{mix 8{};};shot 0;mix 7{};};", 0, 4);
         overlaps("mix 4{shot 0;};mix 5{repeat 9{};};mix 6{shot 0;mix 7{};shot 0;};", 0, 0, 6);
     }
 
     private static void there() {
-        Expect.sentence("A piece is there from the frame in which it begins up to the one ahead of that in which it ends.");
+        Expect.sentence("THE REEL", "A piece is there from the frame in which it begins up to the one ahead of that in which it ends.");
         NewsReel x = made("map 0 1;map 0 2;shot 1 from 19 to 19;");
         Expect.dueRow("screen", x::screen, 0, 1, 1, 2, -1);
         for (int frame : new int[] {Integer.MIN_VALUE, Integer.MIN_VALUE + 1, -2, -1, 4, 5, Integer.MAX_VALUE - 1, Integer.MAX_VALUE}) {
@@ -200,7 +210,7 @@ public final class ReelBoundsTest {
     }
 
     private static void onTheScreen() {
-        Expect.sentence("On the screen is, of the pieces that are there, the one with the greatest number.");
+        Expect.sentence("THE REEL", "On the screen is, of the pieces that are there, the one with the greatest number.");
         NewsReel x = made("mix 2{map 0 4;map 0 5;map 0 4;};");
         // They begin in 0, 2 and 5 and end in 4, 7 and 9.
         Expect.dueRow("screen", x::screen, 0, 0, 1, 1, 1, 2, 2, 2, 2, -1);
@@ -212,8 +222,22 @@ public final class ReelBoundsTest {
         }
     }
 
+    private static void screen() {
+        Expect.sentence("Promise 14", "Returns the piece that is on the screen in it; NONE if there is none.");
+        NewsReel x = made("map 0 1;map 0 1;map 0 400;");
+        int[] frames = {Integer.MIN_VALUE, -1, 0, 1, 2, 401, 402, Integer.MAX_VALUE};
+        int[] due = {-1, -1, 0, 1, 2, 2, -1, -1};
+        for (int i = 0; i < frames.length; i++) {
+            Expect.due("screen in " + frames[i], x.screen(frames[i]), due[i]);
+        }
+        Expect.due("a shorter reel", Expect.edit(x, "map 0 2;"), 1);
+        Expect.dueRow("screen of a shorter reel", x::screen, 0, 0, -1, -1);
+        Expect.due("an empty reel", Expect.edit(x, "mix 0{};"), 0);
+        Expect.dueRow("screen of an empty reel", x::screen, -1, -1);
+    }
+
     private static void endOfTheReel() {
-        Expect.sentence("The END is the greatest frame in which a piece ends (0 without pieces).");
+        Expect.sentence("THE REEL", "The END is the greatest frame in which a piece ends (0 without pieces).");
         Expect.due("END of an empty reel", made("").reel(1), 0);
         Expect.due("END of empty blocks", made("repeat 9{};mix 40{};").reel(1), 0);
         Expect.due("END of one frame", made("map 0 1;").reel(1), 1);
@@ -228,7 +252,8 @@ public final class ReelBoundsTest {
     }
 
     private static void pieceNumbers() {
-        Expect.sentence("0: 0 a shot, 1 a map; 1: the number of the shot or map; 2: FIRST (0 of a map); 3: its frames; 4: the frame in which it begins; 5: the frame in which it ends; 6: its overlap");
+        Expect.sentence("Promise 12",
+                "0: 0 a shot, 1 a map; 1: the number of the shot or map; 2: FIRST (0 of a map); 3: its frames; 4: the frame in which it begins; 5: the frame in which it ends; 6: its overlap");
         NewsReel x = Expect.made("shot 0 9;".repeat(11) + "shot 5 400;map a;map b;map c;map d;map e;map f;",
                 "shot 11 from 399 to 399;map 5 400;mix 40{shot 11;map 0 400;shot 0 from 8 to 8;};", "");
         Expect.dueRow("piece 0", what -> x.piece(0, what), 0, 11, 399, 1, 0, 1, 0);
@@ -239,11 +264,11 @@ public final class ReelBoundsTest {
     }
 
     private static void pieceExceptions() {
-        Expect.sentence("piece: Throws `IllegalArgumentException` if what is out of range");
+        Expect.sentence("Promise 12", "Throws `IllegalArgumentException` if what is out of range");
         NewsReel x = made("shot 0;map 0 1;");
         Expect.throwsArgumentAround("piece 0", what -> x.piece(0, what), 0, 6);
         Expect.throwsArgumentAround("piece 1", what -> x.piece(1, what), 0, 6);
-        Expect.sentence("piece: Throws `IndexOutOfBoundsException` if there is no such piece");
+        Expect.sentence("Promise 12", "Throws `IndexOutOfBoundsException` if there is no such piece");
         Expect.throwsIndexAround("piece", i -> x.piece(i, 6), 2);
         Expect.edit(x, "shot 0;");
         Expect.throwsIndexAround("piece of a shorter reel", i -> x.piece(i, 0), 1);
@@ -252,7 +277,10 @@ public final class ReelBoundsTest {
     }
 
     private static void reelNumbers() {
-        Expect.sentence("0: pieces; 1: the END; 2: the frame in which the voice ends; 3: the END less that; 4: how many blocks are inside one another, at most; 5: the frames of the longest piece (0); 6: all overlaps together");
+        Expect.sentence("Promise 13",
+                "0: pieces; 1: the END; 2: the frame in which the voice ends; 3: the END less that",
+                "5: the frames of the longest piece (0); 6: all overlaps together",
+                "Throws `IllegalArgumentException` if what is out of range");
         NewsReel x = made("");
         Expect.dueRow("reel", x::reel, 0, 0, 0, 0, 0, 0, 0);
         Expect.throwsArgumentAround("reel", x::reel, 0, 6);
@@ -269,7 +297,7 @@ public final class ReelBoundsTest {
     }
 
     private static void blocks() {
-        Expect.sentence("4: how many blocks (empty ones, too) are inside one another, at most");
+        Expect.sentence("Promise 13", "4: how many blocks (empty ones, too) are inside one another, at most");
         String[] reels = {"", "shot 0;", "mix 0{};", "repeat 1{};mix 1{};repeat 1{};", "repeat 1{mix 1{};};", "mix 1{};repeat 1{mix 1{repeat 1{};};};mix 1{mix 1{};};",
             "mix 1{mix 1{mix 1{mix 1{};};};};", "repeat 1{repeat 1{repeat 1{repeat 1{shot 0;};};};};shot 0;"};
         int[] due = {0, 0, 1, 1, 2, 3, 4, 4};
@@ -278,8 +306,20 @@ public final class ReelBoundsTest {
         }
     }
 
+    private static void longestPiece() {
+        Expect.sentence("Promise 13", "5: the frames of the longest piece (0); 6: all overlaps together");
+        String[] reels = {"", "repeat 9{};", "map 0 1;", "map 0 400;map 0 1;", "map 0 1;map 0 400;", "map 0 1;map 0 7;map 0 6;", "mix 40{map 0 80;map 0 90;};"};
+        int[] longest = {0, 0, 1, 400, 400, 7, 90};
+        int[] overlaps = {0, 0, 0, 0, 0, 0, 40};
+        for (int i = 0; i < reels.length; i++) {
+            Expect.due("longest piece of " + reels[i], made(reels[i]).reel(5), longest[i]);
+            Expect.due("all overlaps of " + reels[i], made(reels[i]).reel(6), overlaps[i]);
+        }
+    }
+
     private static void share() {
-        Expect.sentence("Returns the frames ahead of the END in which a piece of a shot of this camera is on the screen, divided by the END, both converted to double; 0.0 if the END is 0.");
+        Expect.sentence("Promise 20",
+                "Returns the frames ahead of the END in which a piece of a shot of this camera is on the screen, divided by the END, both converted to double; 0.0 if the END is 0.");
         NewsReel empty = made("repeat 9{};");
         for (int camera = 0; camera <= 5; camera++) {
             Expect.dueReal("share without pieces", empty.share(camera), 0.0);
@@ -296,13 +336,13 @@ public final class ReelBoundsTest {
         Expect.dueReal("share of camera 1", mixed.share(1), 5.0 / 26.0);
         NewsReel maps = made("map 0 1;map 1 400;");
         Expect.dueReal("share with maps alone", maps.share(0), 0.0);
-        Expect.sentence("share: Throws `IndexOutOfBoundsException` if camera is not 0 to 5");
+        Expect.sentence("Promise 20", "Throws `IndexOutOfBoundsException` if camera is not 0 to 5");
         Expect.throwsIndexAround("share", camera -> (long) maps.share(camera), 6);
         Expect.throwsIndexAround("share without pieces", camera -> (long) empty.share(camera), 6);
     }
 
     private static void edit() {
-        Expect.sentence("Reads the text as a reel, which takes the place of the one that was there. Returns the number of its pieces");
+        Expect.sentence("Promise 25", "Reads the text as a reel, which takes the place of the one that was there.", "Returns the number of its pieces");
         NewsReel x = made("");
         Expect.due("acts after an empty text", x.account(0), 2);
         Expect.due("acts to undo after an empty text", x.count(13), 2);
@@ -317,7 +357,7 @@ public final class ReelBoundsTest {
     }
 
     private static void tooManyPieces() {
-        Expect.sentence("2 it has more than 60 pieces (this is no error of the text: errorCode() is 0 then, and the reel stays)");
+        Expect.sentence("Promise 25", "2 it has more than 60 pieces (this is no error of the text: errorCode() is 0 then, and the reel stays)");
         String[] wrong = {"repeat 6{repeat 5{shot 0;shot 1;};};shot 0;", "repeat 9{repeat 7{shot 0;};};", "repeat 3{" + "shot 0;".repeat(21) + "};",
             "repeat 9{repeat 9{repeat 9{repeat 9{" + "shot 0;".repeat(26) + "};};};};", "mix 1{repeat 9{mix 1{repeat 9{shot 0;};};};};"};
         for (String text : wrong) {
@@ -337,7 +377,7 @@ public final class ReelBoundsTest {
     }
 
     private static void editWithAnError() {
-        Expect.sentence("edit: or minus the reason: 1 the text has an error");
+        Expect.sentence("Promise 25", "or minus the reason: 1 the text has an error");
         String[] wrong = {"shot", "shot 2;", "shot 0;".repeat(31), "mix 1{mix 1{mix 1{mix 1{mix 1{};};};};};", "shot 1;map 0 401;", "}"};
         for (String text : wrong) {
             NewsReel x = Expect.made(Expect.LIBRARY, "mix 2{shot 0;map 0 9;};", "rome.");
@@ -351,7 +391,8 @@ public final class ReelBoundsTest {
     }
 
     private static void writeReel() {
-        Expect.sentence("each item with a semicolon behind it; words and numbers with one space between; no other spaces (none ahead of a brace); \"from\" and \"to\" only of a cut that does not have the whole shot; numbers without zeros ahead");
+        Expect.sentence("Promise 35",
+                "as a text that edit() would read: each item with a semicolon behind it; words and numbers with one space between; no other spaces (none ahead of a brace); \"from\" and \"to\" only of a cut that does not have the whole shot; numbers without zeros ahead");
         String[][] texts = {
             {"", ""},
             {" repeat 009 { } ; ", "repeat 9{};"},
@@ -375,7 +416,7 @@ public final class ReelBoundsTest {
 
     /** 26 cuts that are told in 19 bytes each, and four maps that are inserted: 30 items of the most bytes. */
     private static void longestOutput() {
-        Expect.sentence("writeReel: Returns the number of bytes of the output.");
+        Expect.sentence("Promise 35", "Returns the number of bytes of the output.");
         String due = "map 5 400;".repeat(4) + "shot 11 from 100 to 100;".repeat(26);
         for (int from = 0; from < due.length(); from += 200) {
             NewsReel x = new NewsReel();
@@ -392,7 +433,9 @@ public final class ReelBoundsTest {
     }
 
     private static void output() {
-        Expect.sentence("`index`: 0 for the first byte; Returns this byte of the output; NONE if there is no such byte, or nothing was written.");
+        Expect.sentence("Promise 37",
+                "`index`: 0 for the first byte",
+                "Returns this byte of the output; NONE if there is no such byte, or nothing was written.");
         int[] none = {Integer.MIN_VALUE, -2, -1, 7, 8, 999, 1000, 1001, Integer.MAX_VALUE};
         NewsReel x = Expect.made(Expect.LIBRARY, "shot 0;", "a b.");
         Expect.due("output(0) ahead of writing", x.output(0), -1);
@@ -404,7 +447,7 @@ public final class ReelBoundsTest {
         for (int index : none) {
             Expect.due("output of " + index, x.output(index), -1);
         }
-        Expect.sentence("the output, which is replaced");
+        Expect.sentence("Promise 36", "the output, which is replaced");
         Expect.due("writeVoice", x.writeVoice(), 4);
         Expect.dueRow("output", x::output, 'a', ' ', 'b', '.', -1, -1, -1, -1);
         Expect.due("writeReel again", x.writeReel(), 7);

@@ -22,20 +22,24 @@ public final class TextsBoundsTest {
         tokensOfLibraries();
         tokensOfReels();
         tokensOfVoices();
+        wordsOfStatements();
+        wordsOfItems();
         errorPositions();
         firstWrongToken();
         standsAlready();
         tooMany();
         tooDeep();
         leastCode();
-        latestError();
+        latestCode();
+        latestPosition();
+        noErrorOfTheText();
         firstException();
         exceptionsAheadOfReasons();
         Expect.end("TextsBoundsTest");
     }
 
     private static void calls() {
-        Expect.sentence("An object is used for at most 512 calls after it has been made");
+        Expect.sentence("What it is", "An object is used for at most 512 calls after it has been made");
         NewsReel acts = new NewsReel();
         for (int call = 1; call <= 511; call++) {
             acts.setSlack(call % 101);
@@ -59,7 +63,7 @@ public final class TextsBoundsTest {
     }
 
     private static void newObject() {
-        Expect.sentence("Creates a cutter with an empty library, an empty reel, an empty voice, an empty text buffer and no saved states.");
+        Expect.sentence("Promise 1", "Creates a cutter with an empty library, an empty reel, an empty voice, an empty text buffer and no saved states.");
         NewsReel x = new NewsReel();
         Expect.dueRow("count", x::count, 0, 0, 0, 0, 4, 10, 8, 0, 0, 0, 0, 0, 0, 0);
         Expect.dueRow("reel", x::reel, 0, 0, 0, 0, 0, 0, 0);
@@ -96,7 +100,7 @@ public final class TextsBoundsTest {
     }
 
     private static void fullBuffer() {
-        Expect.sentence("Throws `IllegalStateException` if the text would be longer than 500 bytes");
+        Expect.sentence("Promise 2", "Returns the length of the text in bytes.", "Throws `IllegalStateException` if the text would be longer than 500 bytes");
         NewsReel empty = new NewsReel();
         for (int length = 4; length <= 500; length += 4) {
             Expect.due("appendText", empty.appendText(0x20202020), length);
@@ -110,7 +114,7 @@ public final class TextsBoundsTest {
             Expect.due("load of " + length + " bytes", x.load(), 0);
             Expect.due("WEEK of " + length + " bytes", x.count(3), 7);
         }
-        Expect.sentence("ASCII texts that are collected in a text buffer of at most 500 bytes");
+        Expect.sentence("TEXTS", "ASCII texts that are collected in a text buffer of at most 500 bytes");
         NewsReel reel = filled(500, "mix 7{};");
         Expect.due("edit of 500 bytes", reel.edit(), 0);
         Expect.due("its items", reel.count(8), 1);
@@ -119,7 +123,7 @@ public final class TextsBoundsTest {
     }
 
     private static void highestByteFirst() {
-        Expect.sentence("Appends four bytes to the text buffer, the highest byte of the parameter first.");
+        Expect.sentence("Promise 2", "Appends four bytes to the text buffer, the highest byte of the parameter first.");
         NewsReel x = new NewsReel();
         Expect.due("appendText of week", x.appendText(0x7765656b), 4);
         Expect.due("appendText of 12;", x.appendText(0x31323b20), 8);
@@ -136,7 +140,10 @@ public final class TextsBoundsTest {
     }
 
     private static void truncated() {
-        Expect.sentence("`length`: the new length, 0 to the present length");
+        Expect.sentence("Promise 3",
+                "`length`: the new length, 0 to the present length",
+                "Returns the new length.",
+                "Throws `IllegalArgumentException` if length is out of range");
         for (int length : new int[] {0, 1, 3, 4, 7, 499, 500}) {
             NewsReel x = filled(length, "");
             Expect.throwsArgumentAround("truncateText at " + length + " bytes", x::truncateText, 0, length);
@@ -144,7 +151,7 @@ public final class TextsBoundsTest {
             Expect.due("truncateText(0)", x.truncateText(0), 0);
             Expect.throwsArgument("truncateText(1) of no bytes", () -> x.truncateText(1));
         }
-        Expect.sentence("Cuts the text to its first bytes.");
+        Expect.sentence("Promise 3", "Cuts the text to its first bytes.");
         NewsReel x = new NewsReel();
         Expect.type(x, "week 123");
         Expect.due("truncateText(6)", x.truncateText(6), 6);
@@ -163,18 +170,20 @@ public final class TextsBoundsTest {
     }
 
     private static void emptyAfterReading() {
-        Expect.sentence("The text buffer is empty afterwards, also if there is an error.");
+        Expect.sentence("Promise 4", "The text buffer is empty afterwards, also if there is an error.");
         NewsReel x = new NewsReel();
         Expect.due("load", Expect.load(x, "map a;"), 0);
         Expect.dueTextLength("load", x, 0);
         Expect.due("load with an error", Expect.load(x, "map a"), -1);
         Expect.dueTextLength("load with an error", x, 0);
+        Expect.sentence("Promise 25", "The text buffer is empty afterwards, also if there is an error.");
         Expect.due("edit", Expect.edit(x, "map 0 1;"), 1);
         Expect.dueTextLength("edit", x, 0);
         Expect.due("edit with an error", Expect.edit(x, "map 0 1"), -1);
         Expect.dueTextLength("edit with an error", x, 0);
         Expect.due("edit of 81 pieces", Expect.edit(x, "repeat 9{repeat 9{map 0 1;};};"), -2);
         Expect.dueTextLength("edit of 81 pieces", x, 0);
+        Expect.sentence("Promise 26", "The text buffer is empty afterwards, also if there is an error.");
         Expect.due("say", Expect.say(x, "a."), 1);
         Expect.dueTextLength("say", x, 0);
         Expect.due("say with an error", Expect.say(x, "a"), -1);
@@ -197,7 +206,7 @@ public final class TextsBoundsTest {
     }
 
     private static void letters() {
-        Expect.sentence("Tokens are words (maximal runs of the letters a to z)");
+        Expect.sentence("TEXTS", "Tokens are words (maximal runs of the letters a to z)");
         for (int sign = 0; sign < 256; sign++) {
             boolean fine = isLetter(sign) || isGap(sign);
             int wrongAt = sign == ';' ? 6 : 5;
@@ -210,7 +219,7 @@ public final class TextsBoundsTest {
     }
 
     private static void digits() {
-        Expect.sentence("numbers (maximal runs of the digits 0 to 9)");
+        Expect.sentence("TEXTS", "numbers (maximal runs of the digits 0 to 9)");
         for (int sign = 0; sign < 256; sign++) {
             boolean fine = isDigit(sign) || isGap(sign);
             int wrongAt = sign == ';' ? 7 : 6;
@@ -220,7 +229,7 @@ public final class TextsBoundsTest {
     }
 
     private static void wordsOfVoices() {
-        Expect.sentence("1 if the token is not allowed there, if a byte belongs to no token");
+        Expect.sentence("TEXTS", "1 if the token is not allowed there, if a byte belongs to no token");
         for (int sign = 0; sign < 256; sign++) {
             boolean fine = isLetter(sign) || isGap(sign) || sign == '.';
             int words = isLetter(sign) ? 1 : 2;
@@ -231,7 +240,7 @@ public final class TextsBoundsTest {
     }
 
     private static void longestRuns() {
-        Expect.sentence("maximal runs");
+        Expect.sentence("TEXTS", "semicolons, braces and full stops");
         Expect.library("weekweek 1;", -1, 1, 0);
         Expect.library("wee k 1;", -1, 1, 0);
         Expect.library("week1;", 0);
@@ -246,7 +255,7 @@ public final class TextsBoundsTest {
     }
 
     private static void spacesAndLineFeeds() {
-        Expect.sentence("Spaces (byte 32) and line feeds (byte 10) may stand before, between and behind tokens.");
+        Expect.sentence("TEXTS", "Spaces (byte 32) and line feeds (byte 10) may stand before, between and behind tokens.");
         String gap = "\n \n";
         Expect.library(String.join(gap, "", "shot", "5", "400", ";", "map", "a", ";", "ban", "5", "0", "99", ";", "week", "9", ";", ""), 1);
         Expect.library("shot5 400;map a;ban5 0 99;week9;speed9;pause9;least9;slack9;", 1);
@@ -292,7 +301,7 @@ public final class TextsBoundsTest {
     }
 
     private static void numbersOfLibraries() {
-        Expect.sentence("2 if a number is out of its range");
+        Expect.sentence("TEXTS", "2 if a number is out of its range");
         number(Expect::library, 1, "shot ", " 1;", 0, 5);
         number(Expect::library, 1, "shot 0 ", ";", 1, 400);
         number(Expect::library, 0, "ban ", " 0 0;", 0, 5);
@@ -308,7 +317,7 @@ public final class TextsBoundsTest {
     }
 
     private static void numbersOfReels() {
-        Expect.sentence("SHOT and MAP are numbers of those that there are.");
+        Expect.sentence("TEXTS", "SHOT and MAP are numbers of those that there are.");
         number(Expect::reel, 1, "shot ", ";", 0, 1);
         number(Expect::reel, 1, "map ", " 1;", 0, 1);
         NewsReel none = new NewsReel();
@@ -325,19 +334,20 @@ public final class TextsBoundsTest {
         Expect.due("its errorCode", full.errorCode(), 2);
         Expect.due("edit of map 6 1;", Expect.edit(full, "map 6 1;"), -1);
         Expect.due("its errorCode", full.errorCode(), 2);
-        Expect.sentence("Without \"from\" a cut has the whole shot; LAST is at least FIRST.");
+        Expect.sentence("TEXTS", "LAST is at least FIRST.");
         number(Expect::reel, 1, "shot 1 from ", " to 19;", 0, 19);
         number(Expect::reel, 1, "shot 1 from 5 to ", ";", 5, 19);
         number(Expect::reel, 1, "shot 0 from 29 to ", ";", 29, 29);
         number(Expect::reel, 1, "shot 0 from 0 to ", ";", 0, 29);
-        Expect.sentence("a map that is held for some frames (1 to 400), a repetition of a row of items (1 to 9 TIMES), or a mix of a row of items with an OVERLAP (0 to 40)");
+        Expect.sentence("THE REEL",
+                "a map that is held for some frames (1 to 400), a repetition of a row of items (1 to 9 TIMES), or a mix of a row of items with an OVERLAP (0 to 40)");
         number(Expect::reel, 1, "map 0 ", ";", 1, 400);
         number(Expect::reel, 0, "repeat ", "{};", 1, 9);
         number(Expect::reel, 0, "mix ", "{};", 0, 40);
     }
 
     private static void longestNumbers() {
-        Expect.sentence("Numbers may have any number of digits.");
+        Expect.sentence("TEXTS", "Numbers may have any number of digits.");
         Expect.due("WEEK of 494 digits", Expect.library("week " + "0".repeat(492) + "99;", 0).count(3), 99);
         Expect.due("WEEK of zeros alone", Expect.library("week " + "0".repeat(494) + ";", 0).count(3), 0);
         Expect.library("week " + "0".repeat(491) + "100;", -1, 2, 5);
@@ -378,7 +388,7 @@ public final class TextsBoundsTest {
     }
 
     private static void tokensOfLibraries() {
-        Expect.sentence("statement = \"shot\" CAMERA LENGTH | \"map\" NAME | \"ban\" CAMERA FROM TO | ..");
+        Expect.sentence("TEXTS", "library   = { statement \";\" }", "statement = \"shot\" CAMERA LENGTH | \"map\" NAME | \"ban\" CAMERA FROM TO");
         wrongTokens(Expect::library, "shot 1 1 ;", "E", "N", "N", ";", "E");
         wrongTokens(Expect::library, "map a ;", "E", "W", ";", "E");
         wrongTokens(Expect::library, "ban 1 1 1 ;", "E", "N", "N", "N", ";", "E");
@@ -391,7 +401,10 @@ public final class TextsBoundsTest {
     }
 
     private static void tokensOfReels() {
-        Expect.sentence("item = \"shot\" SHOT [ \"from\" FIRST \"to\" LAST ] | \"map\" MAP FRAMES | \"repeat\" TIMES block | \"mix\" OVERLAP block");
+        Expect.sentence("TEXTS",
+                "reel      = { item \";\" }",
+                "item      = \"shot\" SHOT [ \"from\" FIRST \"to\" LAST ]",
+                "block     = \"{\" { item \";\" } \"}\"");
         wrongTokens(Expect::reel, "shot 1 from 1 to 1 ;", "E", "N", ";", "N", "", "N", ";", "E");
         wrongTokens(Expect::reel, "map 1 1 ;", "E", "N", "N", ";", "E");
         wrongTokens(Expect::reel, "repeat 1 { shot 1 ; map 1 1 ; } ;", "E", "N", "{", "}", "N", ";", "}", "N", "N", ";", "}", ";", "E");
@@ -405,14 +418,44 @@ public final class TextsBoundsTest {
     }
 
     private static void tokensOfVoices() {
-        Expect.sentence("voice = { word { word } \".\" }");
+        Expect.sentence("TEXTS", "voice     = { word { word } \".\" }");
         wrongTokens(Expect::voice, "a . b c .", "WE", "W.", "WE", "W.", "W.", "WE");
+    }
+
+    /** A word that differs by one letter, or is one letter shorter or longer, is not allowed in its place. */
+    private static void wordsAlmost(Reading kind, String ahead, String word, String behind) {
+        for (int i = 0; i < word.length(); i++) {
+            kind.read(ahead + word.substring(0, i) + "q" + word.substring(i + 1) + behind, -1, 1, ahead.length());
+        }
+        kind.read(ahead + word.substring(1) + behind, -1, 1, ahead.length());
+        kind.read(ahead + word.substring(0, word.length() - 1) + behind, -1, 1, ahead.length());
+        kind.read(ahead + word + word.charAt(word.length() - 1) + behind, -1, 1, ahead.length());
+    }
+
+    private static void wordsOfStatements() {
+        Expect.sentence("TEXTS", "\"week\" WEEK | \"speed\" SPEED | \"pause\" PAUSE | \"least\" LEAST | \"slack\" SLACK");
+        wordsAlmost(Expect::library, "map a;", "shot", " 1 1;");
+        wordsAlmost(Expect::library, "", "map", " a;");
+        wordsAlmost(Expect::library, " ", "ban", " 1 1 1;");
+        for (String word : new String[] {"week", "speed", "pause", "least", "slack"}) {
+            wordsAlmost(Expect::library, "shot 0 1;", word, " 1;");
+        }
+    }
+
+    private static void wordsOfItems() {
+        Expect.sentence("TEXTS", "\"map\" MAP FRAMES | \"repeat\" TIMES block | \"mix\" OVERLAP block");
+        wordsAlmost(Expect::reel, "", "shot", " 1;");
+        wordsAlmost(Expect::reel, "shot 0 ", "from", " 1 to 2;");
+        wordsAlmost(Expect::reel, "shot 0 from 1 ", "to", " 2;");
+        wordsAlmost(Expect::reel, "mix 4{", "map", " 1 1;};");
+        wordsAlmost(Expect::reel, "shot 0;", "repeat", " 1{};");
+        wordsAlmost(Expect::reel, "shot 0;", "mix", " 1{};");
     }
 
     // ---- errors
 
     private static void errorPositions() {
-        Expect.sentence("The error position is the index of its first byte, or the length of the text if the text ends too early.");
+        Expect.sentence("TEXTS", "The error position is the index of its first byte, or the length of the text if the text ends too early.");
         Expect.library("#", -1, 1, 0);
         Expect.library(" ".repeat(499) + "#", -1, 1, 499);
         Expect.library(" ".repeat(496) + "week", -1, 1, 500);
@@ -426,7 +469,7 @@ public final class TextsBoundsTest {
     }
 
     private static void firstWrongToken() {
-        Expect.sentence("the parser reads the tokens from the first one on and stops at the first token that is wrong");
+        Expect.sentence("TEXTS", "the parser reads the tokens from the first one on and stops at the first token that is wrong");
         Expect.library("week 100;#", -1, 2, 5);
         Expect.library("week 1;week 100;", -1, 3, 7);
         Expect.library("shot 6 0", -1, 2, 5);
@@ -438,7 +481,7 @@ public final class TextsBoundsTest {
     }
 
     private static void standsAlready() {
-        Expect.sentence("\"week\", \"speed\", \"pause\", \"least\" and \"slack\" can stand once.");
+        Expect.sentence("TEXTS", "\"week\", \"speed\", \"pause\", \"least\" and \"slack\" can stand once.");
         for (String once : new String[] {"week", "speed", "pause", "least", "slack"}) {
             int length = once.length();
             Expect.library(once + " 1;", 0);
@@ -451,7 +494,7 @@ public final class TextsBoundsTest {
             Expect.due("the load after it", Expect.load(x, once + " 3;"), 0);
         }
         Expect.library("week 1;speed 1;pause 1;least 1;slack 1;", 0);
-        Expect.sentence("and for a NAME that a map has");
+        Expect.sentence("TEXTS", "and for a NAME that a map has");
         Expect.library("map a;map a;", -1, 3, 10);
         Expect.library("map abcdefgh;map abcdefgh;", -1, 3, 17);
         Expect.library("map a;map b;map c;map d;map e;map e;", -1, 3, 34);
@@ -462,7 +505,8 @@ public final class TextsBoundsTest {
     }
 
     private static void tooMany() {
-        Expect.sentence("4 for the first word of a 13th shot, of a 7th map, of an 11th ban, of a 31st item (those in blocks count, too), and for the 61st word of a voice");
+        Expect.sentence("TEXTS",
+                "4 for the first word of a 13th shot, of a 7th map, of an 11th ban, of a 31st item (those in blocks count, too), and for the 61st word of a voice");
         String shots = "shot 0 1;".repeat(12);
         String maps = "map a;map b;map c;map d;map e;map f;";
         String bans = "ban 0 0 0;".repeat(10);
@@ -489,7 +533,7 @@ public final class TextsBoundsTest {
     }
 
     private static void tooDeep() {
-        Expect.sentence("5 for a \"{\" inside four other blocks");
+        Expect.sentence("TEXTS", "5 for a \"{\" inside four other blocks");
         Expect.reel("mix 1{repeat 2{mix 3{repeat 4{shot 0;};};};};", 8);
         Expect.reel("mix 1{repeat 2{mix 3{repeat 4{repeat 1{};};};};};", -1, 5, 38);
         Expect.reel("mix 1{repeat 2{mix 3{repeat 4{shot 0;mix 1{};};};};};", -1, 5, 42);
@@ -498,7 +542,7 @@ public final class TextsBoundsTest {
     }
 
     private static void leastCode() {
-        Expect.sentence("The error code, of several the least");
+        Expect.sentence("TEXTS", "The error code, of several the least");
         Expect.voice("a ".repeat(60) + "abcdefghijklmnopqrst.", -1, 4, 120);
         Expect.voice("a ".repeat(60) + "abcdefghijklmnopqrstu.", -1, 2, 120);
         Expect.voice("a ".repeat(60) + "1", -1, 1, 120);
@@ -515,8 +559,9 @@ public final class TextsBoundsTest {
         Expect.library("map a;map b;map c;map d;map e;map f;map a;", -1, 4, 36);
     }
 
-    private static void latestError() {
-        Expect.sentence("Returns the error code of the latest load(), edit() or say(); 0 if its text had no error, or if there was no such call.");
+    private static void latestCode() {
+        Expect.sentence("Promise 5",
+                "Returns the error code of the latest load(), edit() or say(); 0 if its text had no error, or if there was no such call.");
         NewsReel x = Expect.library("week 100;", -1, 2, 5);
         dueError("load without an error", Expect.load(x, "map a;"), 0, x, 0, -1);
         dueError("edit with an error", Expect.edit(x, "map 1"), -1, x, 2, 4);
@@ -531,8 +576,33 @@ public final class TextsBoundsTest {
         x.restore(0);
         dueError("restore", 0, 0, x, 3, 10);
         dueError("a text that is not read", x.appendText(0), 4, x, 3, 10);
-        Expect.sentence("this is no error of the text: errorCode() is 0 then, and the reel stays");
+    }
+
+    private static void latestPosition() {
+        Expect.sentence("Promise 6",
+                "Returns the error position of the latest load(), edit() or say(); NONE if its text had no error, or if there was no such call.");
+        NewsReel none = new NewsReel();
+        Expect.due("errorPosition() without a call", none.errorPosition(), NewsReel.NONE);
+        none.assemble();
+        none.setWeek(5);
+        Expect.due("errorPosition() after acts that read no text", none.errorPosition(), NewsReel.NONE);
+        NewsReel x = Expect.library("#", -1, 1, 0);
+        dueError("load of the empty text", x.load(), 0, x, 0, -1);
+        dueError("edit that ends too early", Expect.edit(x, "mix"), -1, x, 1, 3);
+        dueError("say of a wrong first byte", Expect.say(x, "."), -1, x, 1, 0);
+        dueError("say of the empty text", x.say(), 0, x, 0, -1);
+        dueError("load that ends too early", Expect.load(x, " ".repeat(496) + "week"), -1, x, 1, 500);
+        dueError("edit of the empty text", x.edit(), 0, x, 0, -1);
+    }
+
+    private static void noErrorOfTheText() {
+        Expect.sentence("Promise 25", "this is no error of the text: errorCode() is 0 then, and the reel stays");
+        NewsReel x = Expect.library("map a;map a;", -1, 3, 10);
+        Expect.load(x, "map a;");
+        Expect.edit(x, "map 0 7;");
+        Expect.edit(x, "map 1 7;");
         dueError("edit of 81 pieces", Expect.edit(x, "repeat 9{repeat 9{map 0 1;};};"), -2, x, 0, -1);
+        Expect.due("pieces after it", x.reel(0), 1);
     }
 
     private static void dueError(String call, int got, int answer, NewsReel x, int code, int position) {
@@ -544,7 +614,7 @@ public final class TextsBoundsTest {
     // ---- exceptions
 
     private static void firstException() {
-        Expect.sentence("If several exceptions apply, the one that comes first in the method's list of exceptions is thrown.");
+        Expect.sentence("EXCEPTIONS", "If several exceptions apply, the one that comes first in the method's list of exceptions is thrown.");
         NewsReel x = Expect.made("shot 0 9;map a;ban 0 0 0;", "shot 0;repeat 1{};", "a.");
         for (int wrong : new int[] {Integer.MIN_VALUE, -1, 99, Integer.MAX_VALUE}) {
             Expect.throwsIndex("shot", () -> x.shot(wrong, wrong));
@@ -572,7 +642,7 @@ public final class TextsBoundsTest {
     }
 
     private static void exceptionsAheadOfReasons() {
-        Expect.sentence("Exceptions come ahead of reasons.");
+        Expect.sentence("EXCEPTIONS", "Exceptions come ahead of reasons.");
         NewsReel full = Expect.made(Expect.LIBRARY, "repeat 2{" + "shot 0;".repeat(29) + "};", "");
         Expect.throwsArgument("insert into 30 items", () -> full.insert(0, 0, 401));
         Expect.throwsIndex("insert into 30 items", () -> full.insert(2, 0, 1));

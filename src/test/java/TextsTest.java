@@ -1,7 +1,5 @@
 /** Promises 1 to 6: a new object, the text buffer, load, the errors of the three kinds of texts. */
 public final class TextsTest {
-    private static final String LIBRARY = "shot 0 30;shot 1 20;map rome;map oslo;";
-
     public static void main(String[] args) {
         newObject();
         buffer();
@@ -122,76 +120,62 @@ public final class TextsTest {
         Expect.due("the saved words", x.count(10), 2);
     }
 
-    private static void libraryError(String text, int code, int position) {
-        NewsReel x = new NewsReel();
-        Expect.due("load of " + text, Expect.load(x, text), -1);
-        Expect.due("errorCode of " + text, x.errorCode(), code);
-        Expect.due("errorPosition of " + text, x.errorPosition(), position);
-    }
-
-    private static void libraryFine(String text, int shots) {
-        NewsReel x = new NewsReel();
-        Expect.due("load of " + text, Expect.load(x, text), shots);
-        Expect.due("errorCode of " + text, x.errorCode(), 0);
-        Expect.due("errorPosition of " + text, x.errorPosition(), -1);
-    }
-
     private static void libraryErrors() {
-        libraryFine("shot0 1;shot 5 400;shot 0005 000000000000000000400;", 3);
-        libraryFine("map shot;map map;map abcdefgh;ban 0 0 0;ban 5 99 99;week 0;speed 20;pause 50;least 50;slack 100;", 0);
-        libraryFine("map z;map a;map az;map za;", 0);
-        libraryFine("week 99;speed 1;pause 0;least 1;slack 0;", 0);
-        libraryError("shot 6 1;", 2, 5);
-        libraryError("shot 0 0;", 2, 7);
-        libraryError("shot 0 401;", 2, 7);
-        libraryError("shot 0 99999999999999999999;", 2, 7);
-        libraryError("shot 4294967296 5;", 2, 5);
-        libraryError("shot 0 1", 1, 8);
-        libraryError("shot 0 1 \n ", 1, 11);
-        libraryError("shot 0;", 1, 6);
-        libraryError("shot 0 1 2;", 1, 9);
-        libraryError("shot a 1;", 1, 5);
-        libraryError("shots 0 1;", 1, 0);
-        libraryError("sho 0 1;", 1, 0);
-        libraryError(" 5;", 1, 1);
-        libraryError(";", 1, 0);
-        libraryError("shot 0 1;;", 1, 9);
-        libraryError("shot 0 1;.", 1, 9);
-        libraryError("shot 0 1;\tmap a;", 1, 9);
-        libraryError("shot 0 1;\rmap a;", 1, 9);
-        libraryError("Shot 0 1;", 1, 0);
-        libraryError("shot 0 -1;", 1, 7);
-        libraryError("shot {0 1;", 1, 5);
-        libraryError("map abcdefghi;", 2, 4);
-        libraryError("map rome;map rom;map rome;", 3, 21);
-        libraryError("map 5;", 1, 4);
-        libraryError("map ;", 1, 4);
-        libraryError("ban 6 1 2;", 2, 4);
-        libraryError("ban 1 100 2;", 2, 6);
-        libraryError("ban 1 5 4;", 2, 8);
-        libraryError("ban 1 5 100;", 2, 8);
-        libraryError("week 100;", 2, 5);
-        libraryError("speed 0;", 2, 6);
-        libraryError("speed 21;", 2, 6);
-        libraryError("pause 51;", 2, 6);
-        libraryError("least 0;", 2, 6);
-        libraryError("least 51;", 2, 6);
-        libraryError("slack 101;", 2, 6);
+        Expect.library("shot0 1;shot 5 400;shot 0005 000000000000000000400;", 3);
+        Expect.library("map shot;map map;map abcdefgh;ban 0 0 0;ban 5 99 99;week 0;speed 20;pause 50;least 50;slack 100;", 0);
+        Expect.library("map z;map a;map az;map za;", 0);
+        Expect.library("week 99;speed 1;pause 0;least 1;slack 0;", 0);
+        Expect.library("shot 6 1;", -1, 2, 5);
+        Expect.library("shot 0 0;", -1, 2, 7);
+        Expect.library("shot 0 401;", -1, 2, 7);
+        Expect.library("shot 0 99999999999999999999;", -1, 2, 7);
+        Expect.library("shot 4294967296 5;", -1, 2, 5);
+        Expect.library("shot 0 1", -1, 1, 8);
+        Expect.library("shot 0 1 \n ", -1, 1, 11);
+        Expect.library("shot 0;", -1, 1, 6);
+        Expect.library("shot 0 1 2;", -1, 1, 9);
+        Expect.library("shot a 1;", -1, 1, 5);
+        Expect.library("shots 0 1;", -1, 1, 0);
+        Expect.library("sho 0 1;", -1, 1, 0);
+        Expect.library(" 5;", -1, 1, 1);
+        Expect.library(";", -1, 1, 0);
+        Expect.library("shot 0 1;;", -1, 1, 9);
+        Expect.library("shot 0 1;.", -1, 1, 9);
+        Expect.library("shot 0 1;\tmap a;", -1, 1, 9);
+        Expect.library("shot 0 1;\rmap a;", -1, 1, 9);
+        Expect.library("Shot 0 1;", -1, 1, 0);
+        Expect.library("shot 0 -1;", -1, 1, 7);
+        Expect.library("shot {0 1;", -1, 1, 5);
+        Expect.library("map abcdefghi;", -1, 2, 4);
+        Expect.library("map rome;map rom;map rome;", -1, 3, 21);
+        Expect.library("map 5;", -1, 1, 4);
+        Expect.library("map ;", -1, 1, 4);
+        Expect.library("ban 6 1 2;", -1, 2, 4);
+        Expect.library("ban 1 100 2;", -1, 2, 6);
+        Expect.library("ban 1 5 4;", -1, 2, 8);
+        Expect.library("ban 1 5 100;", -1, 2, 8);
+        Expect.library("week 100;", -1, 2, 5);
+        Expect.library("speed 0;", -1, 2, 6);
+        Expect.library("speed 21;", -1, 2, 6);
+        Expect.library("pause 51;", -1, 2, 6);
+        Expect.library("least 0;", -1, 2, 6);
+        Expect.library("least 51;", -1, 2, 6);
+        Expect.library("slack 101;", -1, 2, 6);
         for (String word : new String[] {"week", "speed", "pause", "least", "slack"}) {
-            libraryError(word + " 5;map a;" + word + " 5;", 3, word.length() + 9);
+            Expect.library(word + " 5;map a;" + word + " 5;", -1, 3, word.length() + 9);
         }
-        libraryError("shot 1 1;".repeat(12) + "shot 1 1;", 4, 108);
-        libraryFine("shot 1 1;".repeat(12), 12);
+        Expect.library("shot 1 1;".repeat(12) + "shot 1 1;", -1, 4, 108);
+        Expect.library("shot 1 1;".repeat(12), 12);
         String maps = "map a;map b;map c;map d;map e;map f;";
-        libraryFine(maps, 0);
-        libraryError(maps + "map f;", 4, 36);
-        libraryFine("ban 1 1 1;".repeat(10), 0);
-        libraryError("ban 1 1 1;".repeat(11), 4, 100);
+        Expect.library(maps, 0);
+        Expect.library(maps + "map f;", -1, 4, 36);
+        Expect.library("ban 1 1 1;".repeat(10), 0);
+        Expect.library("ban 1 1 1;".repeat(11), -1, 4, 100);
     }
 
     private static void reelError(String text, int code, int position) {
         NewsReel x = new NewsReel();
-        Expect.load(x, LIBRARY);
+        Expect.load(x, Expect.LIBRARY);
         Expect.edit(x, "shot 1;");
         Expect.due("edit of " + text, Expect.edit(x, text), -1);
         Expect.due("errorCode of " + text, x.errorCode(), code);
@@ -202,19 +186,11 @@ public final class TextsTest {
         Expect.throwsArgument("truncateText(1) after " + text, () -> x.truncateText(1));
     }
 
-    private static void reelFine(String text, int pieces) {
-        NewsReel x = new NewsReel();
-        Expect.load(x, LIBRARY);
-        Expect.due("edit of " + text, Expect.edit(x, text), pieces);
-        Expect.due("errorCode of " + text, x.errorCode(), 0);
-        Expect.due("errorPosition of " + text, x.errorPosition(), -1);
-    }
-
     private static void reelErrors() {
-        reelFine("", 0);
-        reelFine("shot1from0to19;shot 0 from 29 to 29;map 1 400;", 3);
-        reelFine("repeat 1{};repeat 9{mix 0{};};mix 40{map 0 1;};", 1);
-        reelFine("mix 1{mix 1{mix 1{mix 1{shot 0;};};};};", 1);
+        Expect.reel("", 0);
+        Expect.reel("shot1from0to19;shot 0 from 29 to 29;map 1 400;", 3);
+        Expect.reel("repeat 1{};repeat 9{mix 0{};};mix 40{map 0 1;};", 1);
+        Expect.reel("mix 1{mix 1{mix 1{mix 1{shot 0;};};};};", 1);
         reelError("shot 2;", 2, 5);
         reelError("map 2 5;", 2, 4);
         reelError("map 0 0;", 2, 6);
@@ -244,7 +220,7 @@ public final class TextsTest {
         reelError("shot 0;mix 4{shot 0;#};", 1, 20);
         reelError("mix 1{mix 1{mix 1{mix 1{mix 1{};};};};};", 5, 29);
         reelError("mix 1{mix 1{mix 1{mix 1{mix 1 };};};};", 1, 30);
-        reelFine("shot 0;".repeat(30), 30);
+        Expect.reel("shot 0;".repeat(30), 30);
         reelError("shot 0;".repeat(30) + "shot 0;", 4, 210);
         reelError("mix 0{" + "shot 0;".repeat(30) + "};", 4, 209);
         reelError("shot 0;".repeat(29) + "mix 0{mix", 4, 209);
@@ -262,20 +238,13 @@ public final class TextsTest {
         Expect.throwsArgument("truncateText(1) after " + text, () -> x.truncateText(1));
     }
 
-    private static void voiceFine(String text, int words) {
-        NewsReel x = new NewsReel();
-        Expect.due("say of " + text, Expect.say(x, text), words);
-        Expect.due("errorCode of " + text, x.errorCode(), 0);
-        Expect.due("errorPosition of " + text, x.errorPosition(), -1);
-    }
-
     private static void voiceErrors() {
-        voiceFine("", 0);
-        voiceFine(" \n ", 0);
-        voiceFine("a.b .c\n.", 3);
-        voiceFine("abcdefghijklmnopqrst.", 1);
-        voiceFine("uvwxyz a z az za.", 5);
-        voiceFine("a ".repeat(60) + ".", 60);
+        Expect.voice("", 0);
+        Expect.voice(" \n ", 0);
+        Expect.voice("a.b .c\n.", 3);
+        Expect.voice("abcdefghijklmnopqrst.", 1);
+        Expect.voice("uvwxyz a z az za.", 5);
+        Expect.voice("a ".repeat(60) + ".", 60);
         voiceError("abcdefghijklmnopqrstu.", 2, 0);
         voiceError("a ".repeat(60) + "b.", 4, 120);
         voiceError("a ".repeat(60) + "abcdefghijklmnopqrstu.", 2, 120);

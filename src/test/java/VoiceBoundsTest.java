@@ -22,7 +22,7 @@ public final class VoiceBoundsTest {
     }
 
     private static void sixtyWords() {
-        Expect.sentence("The voice is a row of at most 60 words.");
+        Expect.sentence("THE VOICE", "The voice is a row of at most 60 words.");
         NewsReel none = Expect.voice("", 0);
         Expect.throwsIndexAround("a word of none", i -> none.word(i, 0), 0);
         NewsReel one = Expect.voice("a.", 1);
@@ -35,7 +35,7 @@ public final class VoiceBoundsTest {
     }
 
     private static void letters() {
-        Expect.sentence("In a voice a word is any word of at most 20 letters.");
+        Expect.sentence("TEXTS", "In a voice a word is any word of at most 20 letters.");
         Expect.due("letters", Expect.voice("abcdefghijklmnopqrst.", 1).word(0, 0), 20);
         Expect.voice("abcdefghijklmnopqrstu.", -1, 2, 0);
         Expect.voice("a. abcdefghijklmnopqrst abcdefghijklmnopqrstu.", -1, 2, 24);
@@ -44,7 +44,8 @@ public final class VoiceBoundsTest {
     }
 
     private static void syllables() {
-        Expect.sentence("A word has as many syllables as it has groups of the letters a, e, i, o, u, y (a group is a maximal run of them), but at least 1.");
+        Expect.sentence("THE VOICE",
+                "A word has as many syllables as it has groups of the letters a, e, i, o, u, y (a group is a maximal run of them), but at least 1.");
         for (char letter = 'a'; letter <= 'z'; letter++) {
             boolean vowel = "aeiouy".indexOf(letter) >= 0;
             NewsReel x = Expect.voice(letter + " b" + letter + "b a" + letter + "a.", 3);
@@ -61,7 +62,7 @@ public final class VoiceBoundsTest {
     }
 
     private static void frames() {
-        Expect.sentence("The first word begins at frame 0; a word takes SPEED frames for each syllable");
+        Expect.sentence("THE VOICE", "The first word begins at frame 0; a word takes SPEED frames for each syllable");
         for (int speed : new int[] {1, 20}) {
             NewsReel x = Expect.library("speed " + speed + ";pause 0;", 0);
             Expect.say(x, "b aba abababababababababab.");
@@ -75,7 +76,7 @@ public final class VoiceBoundsTest {
     }
 
     private static void pauses() {
-        Expect.sentence("the next one begins as it ends, or PAUSE frames later if it is the last one of a sentence");
+        Expect.sentence("THE VOICE", "the next one begins as it ends, or PAUSE frames later if it is the last one of a sentence");
         for (int pause : new int[] {0, 1, 50}) {
             NewsReel x = Expect.library("speed 2;pause " + pause + ";", 0);
             Expect.say(x, "a. b c. d.");
@@ -87,7 +88,7 @@ public final class VoiceBoundsTest {
     }
 
     private static void endOfTheVoice() {
-        Expect.sentence("The voice ends as its last word ends (at 0 without words).");
+        Expect.sentence("THE VOICE", "The voice ends as its last word ends (at 0 without words).");
         NewsReel x = Expect.library("speed 20;pause 50;", 0);
         Expect.due("end without words", x.reel(2), 0);
         Expect.say(x, "a.");
@@ -102,7 +103,8 @@ public final class VoiceBoundsTest {
     }
 
     private static void wordNumbers() {
-        Expect.sentence("0: its letters; 1: its syllables; 2: the frame in which it begins; 3: the frame in which it ends; 4: the map whose NAME it is (NONE); 5: the sentence in which it is, from 0 on");
+        Expect.sentence("Promise 11",
+                "0: its letters; 1: its syllables; 2: the frame in which it begins; 3: the frame in which it ends; 4: the map whose NAME it is (NONE); 5: the sentence in which it is, from 0 on");
         NewsReel x = Expect.made("map a;map b;map c;map d;map e;map abcdefgh;speed 20;pause 50;", "", 
                 "a. abcdefgh. abcdefghijklmnopqrst zz.");
         Expect.dueRow("word 0", what -> x.word(0, what), 1, 1, 0, 20, 0, 0);
@@ -121,13 +123,13 @@ public final class VoiceBoundsTest {
     }
 
     private static void wordExceptions() {
-        Expect.sentence("word: Throws `IllegalArgumentException` if what is out of range");
+        Expect.sentence("Promise 11", "Throws `IllegalArgumentException` if what is out of range");
         NewsReel x = Expect.voice("a b c.", 3);
         for (int word = 0; word < 3; word++) {
             int it = word;
             Expect.throwsArgumentAround("word " + it, what -> x.word(it, what), 0, 5);
         }
-        Expect.sentence("word: Throws `IndexOutOfBoundsException` if there is no such word");
+        Expect.sentence("Promise 11", "Throws `IndexOutOfBoundsException` if there is no such word");
         Expect.throwsIndexAround("word", i -> x.word(i, 5), 3);
         Expect.say(x, "a.");
         Expect.throwsIndexAround("word of a shorter voice", i -> x.word(i, 0), 1);
@@ -136,7 +138,7 @@ public final class VoiceBoundsTest {
     }
 
     private static void spoken() {
-        Expect.sentence("Returns the word that is spoken in it (that begins in it or ahead of it, and ends behind it); NONE if there is none.");
+        Expect.sentence("Promise 15", "Returns the word that is spoken in it (that begins in it or ahead of it, and ends behind it); NONE if there is none.");
         NewsReel none = new NewsReel();
         for (int frame : new int[] {Integer.MIN_VALUE, -1, 0, 1, Integer.MAX_VALUE}) {
             Expect.due("spoken without words in " + frame, none.spoken(frame), -1);
@@ -147,6 +149,10 @@ public final class VoiceBoundsTest {
         for (int frame : new int[] {Integer.MIN_VALUE, Integer.MIN_VALUE + 1, -2, -1, Integer.MAX_VALUE - 1, Integer.MAX_VALUE}) {
             Expect.due("spoken in " + frame, x.spoken(frame), -1);
         }
+        Expect.say(x, "a.");
+        Expect.dueRow("spoken of a shorter voice", x::spoken, 0, -1, -1, -1);
+        Expect.say(x, "");
+        Expect.dueRow("spoken of an empty voice", x::spoken, -1, -1);
     }
 
     private static void spokenInPauses() {
@@ -162,7 +168,7 @@ public final class VoiceBoundsTest {
     }
 
     private static void pace() {
-        Expect.sentence("Returns the syllables of all words divided by their number, both converted to float; 0 without words.");
+        Expect.sentence("Promise 21", "Returns the syllables of all words divided by their number, both converted to float; 0 without words.");
         NewsReel x = new NewsReel();
         Expect.dueReal("pace without words", x.pace(), 0);
         Expect.say(x, "b.");
@@ -179,7 +185,7 @@ public final class VoiceBoundsTest {
     }
 
     private static void said() {
-        Expect.sentence("Reads the text as a voice, which takes the place of the one that was there.");
+        Expect.sentence("Promise 26", "Reads the text as a voice, which takes the place of the one that was there.", "Returns the number of its words");
         NewsReel x = new NewsReel();
         Expect.due("say of an empty text", Expect.say(x, ""), 0);
         Expect.due("acts after it", x.account(0), 1);
@@ -196,7 +202,7 @@ public final class VoiceBoundsTest {
     }
 
     private static void sayWithAnError() {
-        Expect.sentence("say: or minus the reason: 1 the text has an error");
+        Expect.sentence("Promise 26", "or minus the reason: 1 the text has an error.");
         String[] wrong = {".", "a", "a;", "abcdefghijklmnopqrstu.", "a.".repeat(60) + "a.", "b b. b"};
         for (String text : wrong) {
             NewsReel x = Expect.made("map a;", "map 0 9;", "a b. a.");
@@ -212,7 +218,7 @@ public final class VoiceBoundsTest {
     }
 
     private static void setVoice() {
-        Expect.sentence("Sets SPEED and PAUSE (also to what they are). Returns the frame in which the voice ends then.");
+        Expect.sentence("Promise 33", "Sets SPEED and PAUSE (also to what they are).", "Returns the frame in which the voice ends then.");
         NewsReel x = Expect.voice("aba. b.", 2);
         Expect.due("setVoice of the least", x.setVoice(1, 0), 3);
         Expect.dueRow("SPEED and PAUSE", what -> x.count(4 + what), 1, 0);
@@ -233,7 +239,7 @@ public final class VoiceBoundsTest {
     }
 
     private static void setVoiceExceptions() {
-        Expect.sentence("setVoice: Throws `IllegalArgumentException` if speed or pause is out of range");
+        Expect.sentence("Promise 33", "`speed`: 1 to 20", "`pause`: 0 to 50", "Throws `IllegalArgumentException` if speed or pause is out of range");
         NewsReel x = Expect.voice("aba. b.", 2);
         for (int pause : new int[] {0, 50, -1, 51}) {
             Expect.throwsArgumentAround("setVoice of SPEED", speed -> x.setVoice(speed, pause), 1, 20);
@@ -247,7 +253,8 @@ public final class VoiceBoundsTest {
     }
 
     private static void writeVoice() {
-        Expect.sentence("the words with a space between two of a sentence, a full stop (byte 46) behind each sentence, a space between sentences");
+        Expect.sentence("Promise 36",
+                "the words with a space between two of a sentence, a full stop (byte 46) behind each sentence, a space between sentences");
         NewsReel x = new NewsReel();
         Expect.dueText("without words", Expect.voiceText(x), "");
         String[][] texts = {{"a.", "a."}, {"\n a\n\nb . c\n.d.\n", "a b. c. d."}, {"z z z z.", "z z z z."},
@@ -258,13 +265,15 @@ public final class VoiceBoundsTest {
         }
         NewsReel sixty = Expect.voice("a.".repeat(60), 60);
         Expect.dueText("sixty sentences", Expect.voiceText(sixty), "a. ".repeat(59) + "a.");
+        NewsReel last = Expect.voice("a ".repeat(59) + "bcd.", 60);
+        Expect.dueText("a last word of its own", Expect.voiceText(last), "a ".repeat(59) + "bcd.");
         NewsReel one = Expect.voice("z ".repeat(60) + ".", 60);
         Expect.dueText("sixty words", Expect.voiceText(one), "z ".repeat(59) + "z.");
     }
 
     /** 23 sentences of a longest word and one of 16 letters fill the text; the output has a space more for each. */
     private static void longestOutput() {
-        Expect.sentence("Returns the number of bytes of the output.");
+        Expect.sentence("Promise 36", "Returns the number of bytes of the output.");
         String due = "abcdefghijklmnopqrst. ".repeat(23) + "abcdefghijklmnop.";
         for (int from = 0; from < due.length(); from += 200) {
             NewsReel x = Expect.voice("abcdefghijklmnopqrst.".repeat(23) + "abcdefghijklmnop.", 24);
