@@ -13,6 +13,8 @@ public final class ActsBoundsTest {
         insertPlaces();
         insertFrames();
         insertExceptions();
+        itemsOfBlocks();
+        lastBlockOfThirty();
         thirtyItems();
         sixtyPieces();
         firstReason();
@@ -273,6 +275,47 @@ public final class ActsBoundsTest {
         NewsReel none = new NewsReel();
         Expect.throwsIndexAround("insert without maps", map -> none.insert(0, map, 1), 0);
         Expect.due("acts", none.account(0), 0);
+    }
+
+    /** Each number of the items in a block is kept, and of the items beside it. */
+    private static void itemsOfBlocks() {
+        Expect.sentence("Promise 28", "Puts a map into the reel as an item ahead of another one, or behind all.");
+        String block = "repeat 3{shot 0 from 5 to 9;mix 7{map 1 7;shot 1 from 2 to 3;};shot 0;};";
+        String cut = "shot 1 from 6 to 18;";
+        for (int order = 0; order < 2; order++) {
+            String first = order == 0 ? block : cut;
+            String second = order == 0 ? cut : block;
+            NewsReel x = Expect.made(LIBRARY, first + second, "");
+            x.insert(0, 1, 8);
+            dueReel("insert ahead", x, "map 1 8;" + first + second);
+            x.move(0, 1);
+            dueReel("move behind the first", x, first + "map 1 8;" + second);
+            x.move(2, 0);
+            dueReel("move of the last one", x, second + first + "map 1 8;");
+            x.remove(1);
+            dueReel("remove between", x, second + "map 1 8;");
+        }
+    }
+
+    private static void lastBlockOfThirty() {
+        Expect.sentence("Promise 31", "`to`: the number that it has then", "Returns the END then.");
+        String block = "mix 3{" + "map 1 1;".repeat(28) + "};";
+        NewsReel x = Expect.made(LIBRARY, "map 0 1;" + block, "");
+        Expect.due("move of a last block", x.move(1, 0), 29);
+        Expect.due("move of a block to the last place", x.move(0, 1), 29);
+        Expect.due("insert into 30 items", x.insert(2, 0, 1), -4);
+        Expect.due("trim of the block", x.trim(1, 1), -5);
+        Expect.due("remove of the first one", x.remove(0), 28);
+        Expect.due("undo", x.undo(), 4);
+        Expect.due("remove of the block", x.remove(1), 1);
+        Expect.due("undo", x.undo(), 4);
+        dueReel("undo", x, "map 0 1;" + block);
+        NewsReel shorter = Expect.made(LIBRARY, "mix 1{mix 1{map 0 1;map 0 1;map 0 1;map 0 1;};};", "");
+        Expect.edit(shorter, "map 0 1;mix 1{map 1 5;};");
+        Expect.due("move of a last block in place of a longer one", shorter.move(1, 0), 6);
+        dueReel("move", shorter, "mix 1{map 1 5;};map 0 1;");
+        Expect.due("move back", shorter.move(0, 1), 6);
+        dueReel("move back", shorter, "map 0 1;mix 1{map 1 5;};");
     }
 
     private static void thirtyItems() {
@@ -613,7 +656,8 @@ public final class ActsBoundsTest {
 
     private static void saveKeepsActs() {
         Expect.sentence("Promise 39",
-                "Saves everything but the accounts, the acts that can be undone, the text buffer, the latest error, the output and the saved states.");
+                "Saves everything but the accounts, the acts that can be undone, the text buffer, the latest error,",
+                "the output and the saved states.");
         NewsReel x = busy();
         String state = Expect.state(x);
         String rest = Expect.rest(x);
@@ -676,7 +720,8 @@ public final class ActsBoundsTest {
 
     private static void restoreKeeps() {
         Expect.sentence("Promise 39",
-                "Saves everything but the accounts, the acts that can be undone, the text buffer, the latest error, the output and the saved states.");
+                "Saves everything but the accounts, the acts that can be undone, the text buffer, the latest error,",
+                "the output and the saved states.");
         NewsReel x = made();
         x.save(0);
         Expect.edit(x, "shot 9;");

@@ -20,6 +20,7 @@ public final class ChoiceBoundsTest {
         speeds();
         speedsOfEqualGap();
         assemble();
+        assembleInAWeek();
         assembleOne();
         assembleAll();
         assembleRefused();
@@ -234,6 +235,18 @@ public final class ChoiceBoundsTest {
         NewsReel exact = Expect.made("shot 0 25;shot 1 15;speed 20;", "", FORTY);
         Expect.due("assemble without waste", exact.assemble(), 0);
         Expect.dueText("the reel without waste", Expect.reelText(exact), "shot 0;shot 1;");
+    }
+
+    private static void assembleInAWeek() {
+        Expect.sentence("Promise 27", "Makes the reel anew of the best choice");
+        NewsReel x = Expect.made("shot 0 40;shot 1 41;ban 0 5 6;ban 1 6 6;slack 7;speed 20;", "", FORTY);
+        int[] weeks = {4, 5, 6, 7};
+        int[] due = {0, 1, -3, 0};
+        for (int i = 0; i < weeks.length; i++) {
+            x.setWeek(weeks[i]);
+            Expect.due("assemble in week " + weeks[i], x.assemble(), due[i]);
+            Expect.due("the shot of week " + weeks[i], x.piece(0, 1), new int[] {0, 1, 1, 0}[i]);
+        }
     }
 
     private static void assembleOne() {

@@ -54,6 +54,9 @@ public final class FaultsBoundsTest {
         names("shot 0 from 0 to 2;map 0 9;", 1);
         names("map 0 2;shot 0;", 1);
         names("shot 0;map 0 9;", 1);
+        NewsReel other = Expect.made("map a;map b;speed 2;pause 0;", "map 1 9;map 0 9;", "b a. b a b.");
+        Expect.due("names of which another map is shown", other.faults(2), 2);
+        Expect.dueRow("their words", i -> other.fault(i, 1), 1, 3);
         NewsReel first = Expect.made("map a;", "map 0 1;", "a.");
         Expect.due("a name that begins in frame 0", first.faults(2), 0);
         NewsReel late = Expect.made("map a;speed 1;pause 50;", "repeat 9{map 0 5;};", "a. a.");

@@ -90,6 +90,9 @@ public final class LibraryBoundsTest {
         Expect.library("ban 0 7 6;", -1, 2, 8);
         Expect.library("ban 0 7 7;", 0);
         Expect.library("ban 0 1 0;", -1, 2, 8);
+        Expect.library("map a;shot 0 1;ban 0 7 6;", -1, 2, 23);
+        Expect.library("ban 0 7 9;ban 0 5 5;ban 0 9 8;", -1, 2, 28);
+        Expect.library("ban 0 7 9;ban 0 5 5;ban 0 8 8;", 0);
     }
 
     private static void bannedShots() {
@@ -238,6 +241,9 @@ public final class LibraryBoundsTest {
         Expect.dueRow("ban 0", what -> x.ban(0, what), 0, 0, 0, 12);
         Expect.dueRow("ban 1", what -> x.ban(1, what), 5, 99, 99, 0);
         Expect.dueRow("ban 2", what -> x.ban(2, what), 1, 0, 99, 0);
+        NewsReel mixed = Expect.library("shot 5 1;shot 0 1;shot 2 1;shot 5 1;shot 1 1;shot 5 1;"
+                + "ban 0 1 1;ban 1 1 1;ban 2 1 1;ban 3 1 1;ban 4 1 1;ban 5 1 1;", 6);
+        Expect.dueRow("shots with the CAMERA of ban", i -> mixed.ban(i, 3), 1, 1, 1, 0, 0, 3);
         Expect.sentence("Promise 10", "Throws `IllegalArgumentException` if what is out of range");
         Expect.throwsArgumentAround("ban 0", what -> x.ban(0, what), 0, 3);
         Expect.throwsArgumentAround("ban 2", what -> x.ban(2, what), 0, 3);

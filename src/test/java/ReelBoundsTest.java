@@ -83,7 +83,8 @@ public final class ReelBoundsTest {
 
     private static void orderOfPieces() {
         Expect.sentence("THE REEL",
-                "Its pieces are the cuts and maps in the order in which one comes to them, those of a repetition TIMES times one row behind the other.");
+                "Its pieces are the cuts and maps in the order in which one comes to them,",
+                "those of a repetition TIMES times one row behind the other.");
         NewsReel x = made("map 0 1;repeat 2{map 0 2;repeat 2{map 0 3;map 0 4;};map 0 5;};repeat 1{map 0 6;};map 0 7;");
         Expect.due("pieces", x.reel(0), 15);
         Expect.dueRow("frames of piece", i -> x.piece(i, 3), 1, 2, 3, 4, 3, 4, 5, 2, 3, 4, 3, 4, 5, 6, 7);
@@ -253,7 +254,8 @@ public final class ReelBoundsTest {
 
     private static void pieceNumbers() {
         Expect.sentence("Promise 12",
-                "0: 0 a shot, 1 a map; 1: the number of the shot or map; 2: FIRST (0 of a map); 3: its frames; 4: the frame in which it begins; 5: the frame in which it ends; 6: its overlap");
+                "0: 0 a shot, 1 a map; 1: the number of the shot or map; 2: FIRST (0 of a map); 3: its frames;",
+                "4: the frame in which it begins; 5: the frame in which it ends; 6: its overlap");
         NewsReel x = Expect.made("shot 0 9;".repeat(11) + "shot 5 400;map a;map b;map c;map d;map e;map f;",
                 "shot 11 from 399 to 399;map 5 400;mix 40{shot 11;map 0 400;shot 0 from 8 to 8;};", "");
         Expect.dueRow("piece 0", what -> x.piece(0, what), 0, 11, 399, 1, 0, 1, 0);
@@ -298,8 +300,8 @@ public final class ReelBoundsTest {
 
     private static void blocks() {
         Expect.sentence("Promise 13", "4: how many blocks (empty ones, too) are inside one another, at most");
-        String[] reels = {"", "shot 0;", "mix 0{};", "repeat 1{};mix 1{};repeat 1{};", "repeat 1{mix 1{};};", "mix 1{};repeat 1{mix 1{repeat 1{};};};mix 1{mix 1{};};",
-            "mix 1{mix 1{mix 1{mix 1{};};};};", "repeat 1{repeat 1{repeat 1{repeat 1{shot 0;};};};};shot 0;"};
+        String[] reels = {"", "shot 0;", "mix 0{};", "repeat 1{};mix 1{};repeat 1{};", "repeat 1{mix 1{};};",
+            "mix 1{};repeat 1{mix 1{repeat 1{};};};mix 1{mix 1{};};", "mix 1{mix 1{mix 1{mix 1{};};};};", "repeat 1{repeat 1{repeat 1{repeat 1{shot 0;};};};};shot 0;"};
         int[] due = {0, 0, 1, 1, 2, 3, 4, 4};
         for (int i = 0; i < reels.length; i++) {
             Expect.due("blocks of " + reels[i], made(reels[i]).reel(4), due[i]);
@@ -319,7 +321,8 @@ public final class ReelBoundsTest {
 
     private static void share() {
         Expect.sentence("Promise 20",
-                "Returns the frames ahead of the END in which a piece of a shot of this camera is on the screen, divided by the END, both converted to double; 0.0 if the END is 0.");
+                "Returns the frames ahead of the END in which a piece of a shot of this camera is on the screen,",
+                "divided by the END, both converted to double; 0.0 if the END is 0.");
         NewsReel empty = made("repeat 9{};");
         for (int camera = 0; camera <= 5; camera++) {
             Expect.dueReal("share without pieces", empty.share(camera), 0.0);
@@ -392,7 +395,9 @@ public final class ReelBoundsTest {
 
     private static void writeReel() {
         Expect.sentence("Promise 35",
-                "as a text that edit() would read: each item with a semicolon behind it; words and numbers with one space between; no other spaces (none ahead of a brace); \"from\" and \"to\" only of a cut that does not have the whole shot; numbers without zeros ahead");
+                "as a text that edit() would read: each item with a semicolon behind it;",
+                "words and numbers with one space between; no other spaces (none ahead of a brace);",
+                "\"from\" and \"to\" only of a cut that does not have the whole shot; numbers without zeros ahead");
         String[][] texts = {
             {"", ""},
             {" repeat 009 { } ; ", "repeat 9{};"},

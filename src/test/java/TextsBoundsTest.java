@@ -340,7 +340,8 @@ public final class TextsBoundsTest {
         number(Expect::reel, 1, "shot 0 from 29 to ", ";", 29, 29);
         number(Expect::reel, 1, "shot 0 from 0 to ", ";", 0, 29);
         Expect.sentence("THE REEL",
-                "a map that is held for some frames (1 to 400), a repetition of a row of items (1 to 9 TIMES), or a mix of a row of items with an OVERLAP (0 to 40)");
+                "a map that is held for some frames (1 to 400), a repetition of a row of items (1 to 9 TIMES),",
+                "or a mix of a row of items with an OVERLAP (0 to 40)");
         number(Expect::reel, 1, "map 0 ", ";", 1, 400);
         number(Expect::reel, 0, "repeat ", "{};", 1, 9);
         number(Expect::reel, 0, "mix ", "{};", 0, 40);
@@ -506,7 +507,8 @@ public final class TextsBoundsTest {
 
     private static void tooMany() {
         Expect.sentence("TEXTS",
-                "4 for the first word of a 13th shot, of a 7th map, of an 11th ban, of a 31st item (those in blocks count, too), and for the 61st word of a voice");
+                "4 for the first word of a 13th shot, of a 7th map, of an 11th ban, of a 31st item (those in blocks count, too),",
+                "and for the 61st word of a voice");
         String shots = "shot 0 1;".repeat(12);
         String maps = "map a;map b;map c;map d;map e;map f;";
         String bans = "ban 0 0 0;".repeat(10);

@@ -104,7 +104,8 @@ public final class VoiceBoundsTest {
 
     private static void wordNumbers() {
         Expect.sentence("Promise 11",
-                "0: its letters; 1: its syllables; 2: the frame in which it begins; 3: the frame in which it ends; 4: the map whose NAME it is (NONE); 5: the sentence in which it is, from 0 on");
+                "0: its letters; 1: its syllables; 2: the frame in which it begins; 3: the frame in which it ends;",
+                "4: the map whose NAME it is (NONE); 5: the sentence in which it is, from 0 on");
         NewsReel x = Expect.made("map a;map b;map c;map d;map e;map abcdefgh;speed 20;pause 50;", "", 
                 "a. abcdefgh. abcdefghijklmnopqrst zz.");
         Expect.dueRow("word 0", what -> x.word(0, what), 1, 1, 0, 20, 0, 0);
